@@ -1,0 +1,40 @@
+/** Makes grids and prints out of pictures: a text a row, '#' for DARK. */
+final class Draw {
+    static final int WHOLE = 0x00FF;
+
+    private Draw() {
+    }
+
+    /** Feeds all 16 rows; those that the picture does not have are without DARK cells. */
+    static void onto(MarkCabinet cabinet, String... picture) {
+        for (int y = 0; y < 16; y++) {
+            cabinet.feed(y, y < picture.length ? bits(picture[y]) : 0);
+        }
+    }
+
+    /** Prints ISLANDS alone, each as {column, row}; no two of them may be NEIGHBOURS. */
+    static int islands(MarkCabinet cabinet, int struck, int[]... places) {
+        int[] rows = new int[16];
+        for (int[] place : places) {
+            rows[place[1]] |= 0x8000 >> place[0];
+        }
+        for (int y = 0; y < 16; y++) {
+            cabinet.feed(y, rows[y]);
+        }
+        return cabinet.print(struck);
+    }
+
+    static int[] at(int x, int y) {
+        return new int[] {x, y};
+    }
+
+    static int bits(String row) {
+        int bits = 0;
+        for (int x = 0; x < row.length(); x++) {
+            if (row.charAt(x) == '#') {
+                bits |= 0x8000 >> x;
+            }
+        }
+        return bits;
+    }
+}
