@@ -1,0 +1,241 @@
+import java.util.ArrayList;
+import java.util.Arrays;
+import java.util.List;
+
+/** Promises 19 to 22: flaws, flaw, age, struck. */
+public final class FlawTest {
+    private static final Check CHECK = new Check("FlawTest");
+    private static final int[] FAR = {-1, Integer.MIN_VALUE, Integer.MAX_VALUE};
+    // so many and so placed that prints of them match without TURN and shift, whatever comes to them
+    private static final int[][] BASE = {{1, 1}, {5, 2}, {12, 4}, {3, 8}, {9, 12}};
+    private static final int[] LATE = {8, 6};
+    private static final int[] LOW = {14, 14};
+    // all but the columns 13 to 15 were struck, so that LOW can't be told
+    private static final int NARROW = 0x00CF;
+
+    public static void main(String[] args) {
+        flawsComeOverTheYears();
+        latestByYear();
+        comesBehindTheLastThatLacks();
+        whatIsNotStruckDoesNotTell();
+        withoutLayingNoneTells();
+        firstAndLastYear();
+        flawsRefuse();
+        ageBetweenYears();
+        ageOfWhatDoesNotTell();
+        quarrels();
+        ageRefuses();
+        reachCounts();
+        CHECK.end();
+    }
+
+    private static int base(MarkCabinet c, int struck, int[]... more) {
+        List<int[]> all = new ArrayList<>(Arrays.asList(BASE));
+        all.addAll(Arrays.asList(more));
+        return Draw.islands(c, struck, all.toArray(new int[0][]));
+    }
+
+    private static void flawIs(String of, MarkCabinet c, int i, int point, int comes) {
+        CHECK.due(of + ": the POINT of flaw " + i, point, c.flaw(1, i, 0));
+        CHECK.due(of + ": flaw " + i + " comes", comes, c.flaw(1, i, 1));
+    }
+
+    private static void aged(String of, MarkCabinet c, int print, int due, int from, int till) {
+        CHECK.due(of + ": age", due, c.age(print, 1));
+        CHECK.due(of + ": from", from, c.struck(0));
+        CHECK.due(of + ": till", till, c.struck(1));
+    }
+
+    private static void flawsComeOverTheYears() {
+        MarkCabinet c = new MarkCabinet();
+        c.keep(1, base(c, Draw.WHOLE), 1990);
+        c.keep(1, base(c, Draw.WHOLE), 1995);
+        CHECK.due("no flaws", 0, c.flaws(1));
+        CHECK.due("there is no flaw 0", -1, c.flaw(1, 0, 0));
+        c.keep(1, base(c, Draw.WHOLE, LOW), 2000);
+        CHECK.due("a flaw", 1, c.flaws(1));
+        flawIs("a flaw", c, 0, 5, 2000);
+        c.keep(1, base(c, Draw.WHOLE, LOW), 2005);
+        CHECK.due("still one", 1, c.flaws(1));
+        flawIs("still one", c, 0, 5, 2000);
+        c.keep(1, base(c, Draw.WHOLE, LATE, LOW), 2010);
+        CHECK.due("two", 2, c.flaws(1));
+        flawIs("by POINTS, not by YEARS", c, 0, 3, 2010);
+        flawIs("by POINTS, not by YEARS", c, 1, 6, 2000);
+        CHECK.due("there is no flaw 2", -1, c.flaw(1, 2, 0));
+        CHECK.due("another tool has none of them", -4, c.flaws(2));
+    }
+
+    private static void latestByYear() {
+        MarkCabinet c = new MarkCabinet();
+        c.keep(1, base(c, Draw.WHOLE, LATE), 2010);
+        c.keep(1, base(c, Draw.WHOLE, LOW), 2000);
+        c.keep(1, base(c, Draw.WHOLE), 1990);
+        CHECK.due("the flaws of the latest YEAR's print alone", 1, c.flaws(1));
+        flawIs("the latest YEAR", c, 0, 3, 2010);
+        c.part(0);
+        CHECK.due("the latest one that is left", 1, c.flaws(1));
+        flawIs("the latest one that is left", c, 0, 5, 2000);
+    }
+
+    private static void comesBehindTheLastThatLacks() {
+        MarkCabinet c = new MarkCabinet();
+        c.keep(1, base(c, Draw.WHOLE, LOW), 1980);
+        c.keep(1, base(c, Draw.WHOLE), 1990);
+        c.keep(1, base(c, Draw.WHOLE, LOW), 2000);
+        c.keep(1, base(c, Draw.WHOLE), 2010);
+        c.keep(1, base(c, Draw.WHOLE, LOW), 2020);
+        c.keep(1, base(c, Draw.WHOLE, LOW), 2030);
+        CHECK.due("one flaw, though it went and came", 1, c.flaws(1));
+        flawIs("behind the last that lacks it", c, 0, 5, 2020);
+    }
+
+    private static void whatIsNotStruckDoesNotTell() {
+        MarkCabinet c = new MarkCabinet();
+        c.keep(1, base(c, NARROW), 1990);
+        c.keep(1, base(c, Draw.WHOLE, LATE, LOW), 2010);
+        CHECK.due("what may have been there is no flaw", 1, c.flaws(1));
+        flawIs("what was struck tells", c, 0, 3, 2010);
+        c.keep(1, base(c, Draw.WHOLE), 1980);
+        CHECK.due("an earlier print tells", 2, c.flaws(1));
+        flawIs("it comes with the first that has it", c, 1, 6, 2010);
+        c.keep(1, base(c, Draw.WHOLE, LATE, LOW), 2000);
+        flawIs("not with one that does not tell", c, 1, 6, 2000);
+        // it was not struck there, but its POINT is there: what has a PAIR has it
+        c.keep(1, base(c, NARROW, LOW), 1985);
+        flawIs("a PAIR outside of the STRUCK part", c, 1, 6, 1985);
+    }
+
+    private static void withoutLayingNoneTells() {
+        MarkCabinet c = new MarkCabinet();
+        Draw.onto(c);
+        c.keep(1, c.print(Draw.WHOLE), 1990);
+        c.keep(1, base(c, Draw.WHOLE), 2000);
+        CHECK.due("an earlier print without POINTS", 0, c.flaws(1));
+        CHECK.due("there is no flaw", -1, c.flaw(1, 0, 1));
+        int other = base(c, Draw.WHOLE);
+        aged("without flaws", c, other, 1, 0, 10000);
+        Draw.onto(c);
+        c.keep(1, c.print(Draw.WHOLE), 2010);
+        CHECK.due("a latest print without POINTS", 0, c.flaws(1));
+        aged("a latest print without POINTS", c, other, 1, 0, 10000);
+    }
+
+    private static void firstAndLastYear() {
+        MarkCabinet c = new MarkCabinet();
+        c.keep(1, base(c, Draw.WHOLE), 0);
+        c.keep(1, base(c, Draw.WHOLE, LOW), 1);
+        CHECK.due("one flaw", 1, c.flaws(1));
+        flawIs("the first YEAR lacks it", c, 0, 5, 1);
+        c.part(1);
+        c.keep(1, 1, 9999);
+        flawIs("the last YEAR has it", c, 0, 5, 9999);
+        aged("one that has it", c, base(c, Draw.WHOLE, LOW), 1, 9999, 10000);
+        aged("one that lacks it", c, base(c, Draw.WHOLE), 1, 0, 9999);
+    }
+
+    private static void flawsRefuse() {
+        MarkCabinet c = new MarkCabinet();
+        c.keep(1, base(c, Draw.WHOLE), 1990);
+        CHECK.due("flaws() of one print", -4, c.flaws(1));
+        CHECK.due("flaw() of one print", -4, c.flaw(1, 0, 0));
+        CHECK.due("flaw() of no print", -4, c.flaw(2, 0, 1));
+        c.keep(1, base(c, Draw.WHOLE, LOW), 2000);
+        CHECK.due("flaws(10)", -1, c.flaws(10));
+        CHECK.due("flaw(10, 0, 0)", -1, c.flaw(10, 0, 0));
+        CHECK.due("flaw(1, 1, 0)", -1, c.flaw(1, 1, 0));
+        CHECK.due("flaw(1, 0, 2)", -1, c.flaw(1, 0, 2));
+        for (int far : FAR) {
+            CHECK.due("flaws(" + far + ")", -1, c.flaws(far));
+            CHECK.due("flaw(" + far + ", 0, 0)", -1, c.flaw(far, 0, 0));
+            CHECK.due("flaw(1, " + far + ", 0)", -1, c.flaw(1, far, 0));
+            CHECK.due("flaw(1, 0, " + far + ")", -1, c.flaw(1, 0, far));
+            CHECK.due("NONE is named ahead of EMPTY", -1, c.flaw(2, 0, far));
+        }
+        CHECK.due("flaws(0)", -4, c.flaws(0));
+        CHECK.due("flaws(9)", -4, c.flaws(9));
+        CHECK.due("flaws(1)", 1, c.flaws(1));
+    }
+
+    /** Tool 1: LOW comes 2000, LATE comes 2010. */
+    private static MarkCabinet twoFlaws() {
+        MarkCabinet c = new MarkCabinet();
+        c.keep(1, base(c, Draw.WHOLE), 1990);
+        c.keep(1, base(c, Draw.WHOLE, LOW), 2000);
+        c.keep(1, base(c, Draw.WHOLE, LATE, LOW), 2010);
+        return c;
+    }
+
+    private static void ageBetweenYears() {
+        MarkCabinet c = twoFlaws();
+        aged("one that lacks both", c, base(c, Draw.WHOLE), 1, 0, 2000);
+        aged("one that has the first", c, base(c, Draw.WHOLE, LOW), 1, 2000, 2010);
+        int both = base(c, Draw.WHOLE, LATE, LOW);
+        aged("one that has both", c, both, 1, 2010, 10000);
+        c.keep(2, both, 1990);
+        aged("one of another tool", c, both, 1, 2010, 10000);
+        CHECK.due("age() is no match()", -1000, c.told(6));
+    }
+
+    private static void ageOfWhatDoesNotTell() {
+        MarkCabinet c = twoFlaws();
+        aged("LATE is lacking, LOW does not tell", c, base(c, NARROW), 1, 0, 2010);
+        aged("LATE is there, LOW does not tell", c, base(c, NARROW, LATE), 1, 2010, 10000);
+        aged("LOW is there though not struck", c, base(c, NARROW, LOW), 1, 2000, 2010);
+        Draw.onto(c);
+        aged("without a LAYING none tells", c, c.print(Draw.WHOLE), 1, 0, 10000);
+    }
+
+    private static void quarrels() {
+        MarkCabinet c = twoFlaws();
+        int quarrel = base(c, Draw.WHOLE, LATE);
+        aged("it has the later one alone", c, quarrel, 0, 2010, 2000);
+        MarkCabinet same = new MarkCabinet();
+        same.keep(1, base(same, Draw.WHOLE), 1990);
+        same.keep(1, base(same, Draw.WHOLE, LATE, LOW), 2010);
+        aged("FROM is TILL", same, base(same, Draw.WHOLE, LOW), 0, 2010, 2010);
+    }
+
+    private static void ageRefuses() {
+        MarkCabinet c = twoFlaws();
+        int other = base(c, Draw.WHOLE, LOW);
+        CHECK.due("struck(0) before any", -1, c.struck(0));
+        CHECK.due("a print of that tool", -4, c.age(0, 1));
+        CHECK.due("its latest one", -4, c.age(2, 1));
+        CHECK.due("a tool without prints", -4, c.age(other, 2));
+        CHECK.due("struck(0) behind refusals", -1, c.struck(0));
+        CHECK.due("struck(1) behind refusals", -1, c.struck(1));
+        CHECK.due("age", 1, c.age(other, 1));
+        c.keep(2, base(c, Draw.WHOLE), 5);
+        CHECK.due("a tool with one print", -4, c.age(other, 2));
+        CHECK.due("a tool with one print, and it is that", -4, c.age(4, 2));
+        CHECK.due("age(0, 1) again", -4, c.age(0, 1));
+        CHECK.due("age(5, 1)", -1, c.age(5, 1));
+        CHECK.due("age(3, 10)", -1, c.age(other, 10));
+        for (int far : FAR) {
+            CHECK.due("age(" + far + ", 1)", -1, c.age(far, 1));
+            CHECK.due("age(3, " + far + ")", -1, c.age(other, far));
+            CHECK.due("struck(" + far + ")", -1, c.struck(far));
+        }
+        CHECK.due("struck(2)", -1, c.struck(2));
+        CHECK.due("FROM stays", 2000, c.struck(0));
+        CHECK.due("TILL stays", 2010, c.struck(1));
+        c.flaws(1);
+        c.part(2);
+        CHECK.due("FROM stays with what changes", 2000, c.struck(0));
+        CHECK.due("one that is parted from it", 1, c.age(2, 1));
+        CHECK.due("FROM by one flaw", 2000, c.struck(0));
+        CHECK.due("TILL by one flaw", 10000, c.struck(1));
+    }
+
+    private static void reachCounts() {
+        MarkCabinet c = new MarkCabinet();
+        c.keep(1, base(c, Draw.WHOLE, Draw.at(12, 14)), 1990);
+        c.keep(1, base(c, Draw.WHOLE, LOW), 2000);
+        CHECK.due("two columns apart by REACH 1", 1, c.flaws(1));
+        c.reach(2);
+        CHECK.due("two columns apart by REACH 2", 0, c.flaws(1));
+        c.reach(0);
+        CHECK.due("by REACH 0", 1, c.flaws(1));
+    }
+}
