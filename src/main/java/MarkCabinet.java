@@ -571,7 +571,7 @@ public final class MarkCabinet {
             return x >= x0 && x <= x1 && y >= y0 && y <= y1;
         }
 
-        /** Becomes that part by a TURN. */
+        /** Becomes the other part by a TURN; two corners that are opposite tell all four. */
         void becomeTurned(Part other, int q) {
             int xa = turnedColumn(other.x0, other.y0, q);
             int xb = turnedColumn(other.x1, other.y1, q);
@@ -584,7 +584,7 @@ public final class MarkCabinet {
         }
 
         static int turnedColumn(int x, int y, int q) {
-            switch (q & 3) {
+            switch (q) {
                 case 0: return x;
                 case 1: return SIDE - 1 - y;
                 case 2: return SIDE - 1 - x;
@@ -593,8 +593,12 @@ public final class MarkCabinet {
         }
 
         static int turnedRow(int x, int y, int q) {
-            // a quarter makes a row of what was the column one quarter ago
-            return turnedColumn(x, y, q + 3);
+            switch (q) {
+                case 0: return y;
+                case 1: return x;
+                case 2: return SIDE - 1 - y;
+                default: return SIDE - 1 - x;
+            }
         }
     }
 
@@ -719,7 +723,7 @@ public final class MarkCabinet {
             int withSome = 0;
             int any = 0;
             for (int i = 0; i < size; i++) {
-                withSome += may[i] == 0 ? 0 : 1;
+                withSome += may[i] != 0 ? 1 : 0;
                 any |= may[i];
             }
             return Math.min(withSome, Integer.bitCount(any));
@@ -787,7 +791,7 @@ public final class MarkCabinet {
         private static final int UNKNOWN = 0, NO_LAYING = 1;
 
         int reach = 1;
-        // PRINTS never change, so what was found once for a REACH holds for good
+        // POINTS and STRUCK parts of PRINTS never change, so what was found once for a REACH holds for good
         private final int[] known = new int[(MOST_REACH + 1) * MOST_PRINTS * MOST_PRINTS];
         private final Finder finder = new Finder();
         private final Pairing pairing = new Pairing();
@@ -839,6 +843,7 @@ public final class MarkCabinet {
             finder.learn(b, reach);
             int best = NO_LAYING;
             int greatest = REFUSED;
+            // by q, dy and dx, rising: the first of several that score as much is the one that is due
             for (int q = 0; q < TURNS; q++) {
                 turnBy(a, q);
                 markLandings(a, b);

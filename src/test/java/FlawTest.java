@@ -16,6 +16,9 @@ public final class FlawTest {
     public static void main(String[] args) {
         flawsComeOverTheYears();
         latestByYear();
+        firstPointIsAFlaw();
+        lastPointIsAFlaw();
+        eachToolForItself();
         comesBehindTheLastThatLacks();
         whatIsNotStruckDoesNotTell();
         withoutLayingNoneTells();
@@ -76,6 +79,59 @@ public final class FlawTest {
         c.part(0);
         CHECK.due("the latest one that is left", 1, c.flaws(1));
         flawIs("the latest one that is left", c, 0, 5, 2000);
+    }
+
+    private static void firstPointIsAFlaw() {
+        MarkCabinet c = new MarkCabinet();
+        int[] first = {8, 0};
+        // by numbers the first one has it and the second one lacks it, by YEARS it is the other way round
+        c.keep(1, base(c, Draw.WHOLE, first), 2000);
+        c.keep(1, base(c, Draw.WHOLE), 1990);
+        c.keep(1, base(c, Draw.WHOLE, first), 2010);
+        CHECK.due("a flaw that is POINT 0", 1, c.flaws(1));
+        flawIs("a flaw that is POINT 0", c, 0, 0, 2000);
+        aged("it has POINT 0", c, base(c, Draw.WHOLE, first), 1, 2000, 10000);
+        aged("it lacks POINT 0", c, base(c, Draw.WHOLE), 1, 0, 2000);
+        Draw.onto(c);
+        aged("without POINTS it does not tell", c, c.print(Draw.WHOLE), 1, 0, 10000);
+    }
+
+    private static void eachToolForItself() {
+        MarkCabinet c = new MarkCabinet();
+        c.keep(2, base(c, Draw.WHOLE), 5000);
+        c.keep(2, base(c, Draw.WHOLE, LOW), 6000);
+        c.keep(1, base(c, Draw.WHOLE), 1980);
+        c.keep(1, base(c, Draw.WHOLE, LOW), 1990);
+        c.keep(1, base(c, Draw.WHOLE, LOW), 2000);
+        CHECK.due("the flaws of one tool", 1, c.flaws(2));
+        CHECK.due("it comes", 6000, c.flaw(2, 0, 1));
+        CHECK.due("the flaws of another one", 1, c.flaws(1));
+        flawIs("the flaws of another one", c, 0, 5, 1990);
+        MarkCabinet early = new MarkCabinet();
+        early.keep(1, base(early, Draw.WHOLE, LOW), 0);
+        early.keep(1, base(early, Draw.WHOLE, LOW), 1);
+        CHECK.due("what all have is no flaw", 0, early.flaws(1));
+    }
+
+    /** Twelve POINTS, of which the last is the one that comes. */
+    private static void lastPointIsAFlaw() {
+        MarkCabinet c = new MarkCabinet();
+        int[][] more = {{14, 1}, {7, 8}, {14, 8}, {1, 12}, {4, 14}, {12, 14}};
+        c.keep(1, base(c, Draw.WHOLE, more), 1990);
+        int[][] all = Arrays.copyOf(more, 7);
+        all[6] = new int[] {15, 15 - 3};
+        c.keep(1, base(c, Draw.WHOLE, all), 2000);
+        CHECK.due("twelve POINTS", 12, c.point(1, -1));
+        CHECK.due("a flaw among twelve", 1, c.flaws(1));
+        CHECK.due("its column", 15, c.point(1, 3 * c.flaw(1, 0, 0)));
+        all[6] = new int[] {14, 14};
+        c.part(1);
+        all[5] = new int[] {11, 14};
+        c.keep(1, base(c, Draw.WHOLE, all), 2000);
+        CHECK.due("the last of twelve", 1, c.flaws(1));
+        flawIs("the last of twelve", c, 0, 11, 2000);
+        aged("it has the last of twelve", c, base(c, Draw.WHOLE, all), 1, 2000, 10000);
+        aged("it lacks the last of twelve", c, base(c, Draw.WHOLE, more), 1, 0, 2000);
     }
 
     private static void comesBehindTheLastThatLacks() {

@@ -82,6 +82,15 @@ public final class GridTest {
         Draw.onto(c, "########", "#......#", "#.####.#", "#.#..#.#", "#.####.#", "#......#", "########");
         CHECK.due("a ring in a ring: pieces", 2, c.pieces(0));
         CHECK.due("a ring in a ring: holes", 2, c.pieces(1));
+        String[][] bowls = {{"...#", "#..#", ".##."}, {"#...", "#..#", ".##."}, {".##.", "#..#", "...#"}, {"#", ".#", "#"}};
+        for (String[] bowl : bowls) {
+            String[] picture = new String[bowl.length + 1];
+            System.arraycopy(bowl, 0, picture, 0, bowl.length);
+            picture[bowl.length] = "........#";
+            Draw.onto(c, picture);
+            CHECK.due("a bowl and a cell", 2, c.pieces(0));
+        }
+        Draw.onto(c, "########", "#......#", "#.####.#", "#.#..#.#", "#.####.#", "#......#", "########");
         int[] wrong = {-1, 2, Integer.MIN_VALUE, Integer.MAX_VALUE};
         for (int what : wrong) {
             CHECK.due("pieces(" + what + ")", -1, c.pieces(what));
@@ -142,6 +151,11 @@ public final class GridTest {
         Draw.onto(c, "", ".###", ".###", ".###");
         CHECK.due("cells go at once, row by row", 6, c.thin());
         CHECK.due("what is left of nine", Draw.bits(".###"), c.row(3));
+        // the middle has no SIDE that is not DARK till the first sweep has gone past it
+        Draw.onto(c, ".#..", "#.#.", ".###", "..#.");
+        CHECK.due("a second sweep takes one more", 3, c.thin());
+        CHECK.due("what it leaves", Draw.bits(".#.."), c.row(2));
+        CHECK.due("the ring is there still", 1, c.pieces(1));
     }
 
     private static void thinAtTheEdges() {
@@ -199,5 +213,25 @@ public final class GridTest {
         CHECK.due("FORKS of DARK alone", 64, c.count(3));
         Draw.onto(c, "#####", "#####");
         CHECK.due("FORKS of two rows: columns 0, 2 and 4", 3, c.count(3));
+        c.feed(0, 3);
+        c.feed(1, 3);
+        CHECK.due("a FORK beside the right edge", 1, c.count(3));
+        c.feed(0, 2);
+        c.feed(1, 1);
+        c.feed(2, 3);
+        c.print(Draw.WHOLE);
+        CHECK.due("an END and a FORK", 2, c.point(1, -1));
+        CHECK.due("one at the right edge: its column", 15, c.point(1, 3));
+        CHECK.due("its row", 1, c.point(1, 4));
+        CHECK.due("its KIND", 2, c.point(1, 5));
+        Draw.onto(c);
+        c.feed(0, 5);
+        c.feed(1, 2);
+        c.feed(2, 5);
+        CHECK.due("an X in the corner", 5, c.count(3));
+        c.feed(0, 7);
+        c.feed(1, 3);
+        c.feed(2, 0);
+        CHECK.due("of four with three NEIGHBOURS or more the first is a FORK", 1, c.count(3));
     }
 }

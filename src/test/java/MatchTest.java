@@ -124,6 +124,13 @@ public final class MatchTest {
         int right = Draw.islands(c, Draw.WHOLE, at(1, 6), at(3, 6), at(5, 6), at(7, 6));
         CHECK.due("a chain", 40, c.lay(left, right, 0, 0, 0));
         paired("a chain", c, 0, 1, 2, 3);
+        // the last POINT has b's first one alone, so that all the others must give way in turn
+        int pushing = Draw.islands(c, Draw.WHOLE, at(1, 1), at(3, 1), at(5, 1), at(7, 1), at(9, 1), at(11, 1), at(13, 1),
+            at(0, 3));
+        int pushed = Draw.islands(c, Draw.WHOLE, at(0, 2), at(2, 2), at(4, 2), at(6, 2), at(8, 2), at(10, 2), at(12, 2),
+            at(14, 2));
+        CHECK.due("a long chain", 80, c.lay(pushing, pushed, 0, 0, 0));
+        paired("a long chain", c, 1, 2, 3, 4, 5, 6, 7, 0);
         CHECK.due("a chain that is shifted", 27, c.lay(left, right, 0, 2, 0));
         paired("a chain that is shifted", c, 1, 2, 3, -1);
     }
@@ -215,6 +222,14 @@ public final class MatchTest {
         c.reach(3);
         CHECK.due("three beside it", 10, c.lay(a, a, 0, 3, 0));
         CHECK.due("four beside it", -3, c.lay(a, a, 0, 4, 0));
+        CHECK.due("three to the left", 10, c.lay(b, b, 0, -3, 0));
+        CHECK.due("four to the left", -3, c.lay(b, b, 0, -4, 0));
+        int upper = Draw.islands(c, Draw.WHOLE, at(7, 0));
+        int lower = Draw.islands(c, Draw.WHOLE, at(7, 15));
+        CHECK.due("three above", 10, c.lay(upper, upper, 0, 0, -3));
+        CHECK.due("four above", -3, c.lay(upper, upper, 0, 0, -4));
+        CHECK.due("three below", 10, c.lay(lower, lower, 0, 0, 3));
+        CHECK.due("four below", -3, c.lay(lower, lower, 0, 0, 4));
         CHECK.due("thirty to the right", 0, c.lay(a, b, 0, 30, 30));
         CHECK.due("thirty to the left", 0, c.lay(b, a, 0, -30, -30));
     }
@@ -251,6 +266,12 @@ public final class MatchTest {
         int b = Draw.islands(c, Draw.WHOLE, at(3, 9));
         CHECK.due("one on one", 10, c.match(a, b));
         told("the least q", c, 1, 0, 10, 0, -2, 4, 1);
+        int first = Draw.islands(c, Draw.WHOLE, at(0, 0));
+        int last = Draw.islands(c, Draw.WHOLE, at(15, 15));
+        CHECK.due("the least shift", 10, c.match(last, first));
+        told("the least shift", c, 1, 0, 10, 0, -15, -15, 1);
+        CHECK.due("the greatest shift", 10, c.match(first, last));
+        told("the greatest shift", c, 1, 0, 10, 0, 15, 15, 1);
         int lone = Draw.islands(c, 0x5555, at(5, 5));
         int beside = Draw.islands(c, Draw.WHOLE, at(3, 5), at(9, 5));
         CHECK.due("one on two in a row", 10, c.match(lone, beside));

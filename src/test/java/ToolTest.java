@@ -16,6 +16,7 @@ public final class ToolTest {
         likeBelowZero();
         strangersAreOfTwoTools();
         strangersOfAScore();
+        strangersScoreAsMatched();
         CHECK.end();
     }
 
@@ -147,6 +148,12 @@ public final class ToolTest {
         CHECK.due("the other way round", -3, c.melt(2, 1));
         belongs("what is refused changes nothing", c, 2, 2, 15);
         belongs("what is refused changes nothing", c, 3, 2, 20);
+        MarkCabinet two = cabinetOf(2);
+        two.keep(1, 0, 10);
+        two.keep(2, 1, 10);
+        CHECK.due("with one print each", -3, two.melt(1, 2));
+        CHECK.due("with one print each, the other way round", -3, two.melt(2, 1));
+        belongs("with one print each", two, 0, 1, 10);
         CHECK.due("the same one", -1, c.melt(1, 1));
         CHECK.due("melt(10, 1)", -1, c.melt(10, 1));
         CHECK.due("melt(1, 10)", -1, c.melt(1, 10));
@@ -237,9 +244,30 @@ public final class ToolTest {
         CHECK.due("four and one", 4, c.strangers(0, 1));
         c.part(4);
         CHECK.due("four", 0, c.strangers(-1000, 0));
+        c.part(0);
+        CHECK.due("prints of no tool are no strangers", 0, c.strangers(-1000, 1));
+        c.keep(9, 4, 1);
+        CHECK.due("three and one", 3, c.strangers(-1000, 1));
         int[] wrong = {-1, 2, Integer.MIN_VALUE, Integer.MAX_VALUE};
         for (int what : wrong) {
             CHECK.due("strangers(0, " + what + ")", -1, c.strangers(0, what));
+        }
+    }
+
+    /** What like() and strangers() go by is the SCORE that match() answers. */
+    private static void strangersScoreAsMatched() {
+        MarkCabinet c = new MarkCabinet();
+        c.reach(2);
+        // two POINTS of a have one of b alone, and one has two
+        int a = Draw.islands(c, Draw.WHOLE, at(4, 4), at(8, 4), at(4, 12));
+        int b = Draw.islands(c, Draw.WHOLE, at(6, 4), at(4, 12), at(6, 12));
+        c.keep(0, a, 1);
+        c.keep(1, b, 1);
+        for (int reach = 0; reach <= 3; reach++) {
+            c.reach(reach);
+            int score = c.match(a, b);
+            CHECK.due("as much as the MATCH, REACH " + reach, 1, c.strangers(score, 0));
+            CHECK.due("more than the MATCH, REACH " + reach, 0, c.strangers(score + 1, 0));
         }
     }
 
