@@ -12,8 +12,15 @@ final class Draw {
         }
     }
 
-    /** Prints ISLANDS alone, each as {column, row}; no two of them may be NEIGHBOURS. */
-    static int islands(MarkCabinet cabinet, int struck, int[]... places) {
+    /** All 16 rows alike. */
+    static void rows(MarkCabinet cabinet, int bits) {
+        for (int y = 0; y < 16; y++) {
+            cabinet.feed(y, bits);
+        }
+    }
+
+    /** Feeds all 16 rows with these cells alone, each as {column, row}. */
+    static void cells(MarkCabinet cabinet, int[]... places) {
         int[] rows = new int[16];
         for (int[] place : places) {
             rows[place[1]] |= 0x8000 >> place[0];
@@ -21,6 +28,17 @@ final class Draw {
         for (int y = 0; y < 16; y++) {
             cabinet.feed(y, rows[y]);
         }
+    }
+
+    /** Prints ISLANDS alone, each as {column, row}; no two of them may be NEIGHBOURS. */
+    static int islands(MarkCabinet cabinet, int struck, int[]... places) {
+        cells(cabinet, places);
+        return cabinet.print(struck);
+    }
+
+    /** A print of a grid without DARK cells. */
+    static int nothing(MarkCabinet cabinet, int struck) {
+        rows(cabinet, 0);
         return cabinet.print(struck);
     }
 
