@@ -57,6 +57,25 @@ final class Check {
         due(of + ": no more POINTS", MarkCabinet.NONE, c.point(print, 3 * due.length));
     }
 
+    /** Of which TOOL a print is, and of which YEAR. */
+    void belongs(String of, MarkCabinet c, int print, int tool, int year) {
+        due(of + ": of(" + print + ", 0)", tool, c.of(print, 0));
+        due(of + ": of(" + print + ", 1)", year, c.of(print, 1));
+    }
+
+    /** A FLAW of tool 1. */
+    void flawIs(String of, MarkCabinet c, int i, int point, int comes) {
+        due(of + ": the POINT of flaw " + i, point, c.flaw(1, i, 0));
+        due(of + ": flaw " + i + " comes", comes, c.flaw(1, i, 1));
+    }
+
+    /** The AGE of a print by tool 1. */
+    void aged(String of, MarkCabinet c, int print, int due, int from, int till) {
+        due(of + ": age", due, c.age(print, 1));
+        due(of + ": from", from, c.struck(0));
+        due(of + ": till", till, c.struck(1));
+    }
+
     /** Ends the program with exit code 1 if an answer was wrong, or if none was asked for. */
     void end() {
         System.out.println(name + ": " + asked + " answers, " + wrong + " wrong");

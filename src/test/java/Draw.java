@@ -42,6 +42,16 @@ final class Draw {
         return cabinet.print(struck);
     }
 
+    /** A cabinet with some prints of one ISLAND each, all of them at (7, 7). */
+    static MarkCabinet ofIslands(int prints) {
+        MarkCabinet cabinet = new MarkCabinet();
+        cells(cabinet, at(7, 7));
+        for (int k = 0; k < prints; k++) {
+            cabinet.print(WHOLE);
+        }
+        return cabinet;
+    }
+
     static int[] at(int x, int y) {
         return new int[] {x, y};
     }

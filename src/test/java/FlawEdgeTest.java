@@ -20,6 +20,7 @@ public final class FlawEdgeTest {
         promise19OnTheEdgeOfThePart();
         promise19EarlierYearsAlone();
         promise19WithoutLaying();
+        promise19SeveralAsGood();
         promise19EachReach();
         promise20FirstAndLastFlaw();
         promise20LeastAndGreatestWhat();
@@ -37,6 +38,7 @@ public final class FlawEdgeTest {
         promise21FromAndTillMeet();
         promise21GreatestAndLeastComing();
         promise21DoesNotTell();
+        promise21SeveralAsGood();
         promise21EachReach();
         promise22BeforeAny();
         promise22LeastAndGreatestWhat();
@@ -61,17 +63,6 @@ public final class FlawEdgeTest {
         keepBase(c, 1, 2000, LEFT);
         keepBase(c, 1, later, LEFT, RIGHT);
         return c;
-    }
-
-    private static void flawIs(String of, MarkCabinet c, int i, int point, int comes) {
-        CHECK.due(of + ": the POINT of flaw " + i, point, c.flaw(1, i, 0));
-        CHECK.due(of + ": flaw " + i + " comes", comes, c.flaw(1, i, 1));
-    }
-
-    private static void aged(String of, MarkCabinet c, int print, int due, int from, int till) {
-        CHECK.due(of + ": age", due, c.age(print, 1));
-        CHECK.due(of + ": from", from, c.struck(0));
-        CHECK.due(of + ": till", till, c.struck(1));
     }
 
     private static void promise19FirstAndLastTool() {
@@ -119,8 +110,8 @@ public final class FlawEdgeTest {
         }
         keepBase(full, 1, 9999, LEFT, RIGHT);
         CHECK.due("promise 19: a full tool", 2, full.flaws(1));
-        flawIs("promise 20: a full tool", full, 0, 5, 9999);
-        flawIs("promise 20: a full tool", full, 1, 6, 9999);
+        CHECK.flawIs("promise 20: a full tool", full, 0, 5, 9999);
+        CHECK.flawIs("promise 20: a full tool", full, 1, 6, 9999);
     }
 
     // "but lies in that one's STRUCK part"
@@ -143,15 +134,15 @@ public final class FlawEdgeTest {
         keepBase(c, 1, 9999, LEFT);
         keepBase(c, 1, 0, RIGHT);
         CHECK.due("promise 19: the first print is the latest", 1, c.flaws(1));
-        flawIs("promise 20: the first print is the latest", c, 0, 5, 9999);
+        CHECK.flawIs("promise 20: the first print is the latest", c, 0, 5, 9999);
         c.part(0);
         c.keep(1, 0, 1);
         CHECK.due("promise 19: by one YEAR", 1, c.flaws(1));
-        flawIs("promise 20: by one YEAR", c, 0, 5, 1);
+        CHECK.flawIs("promise 20: by one YEAR", c, 0, 5, 1);
         keepBase(c, 1, 2, LEFT, RIGHT);
         CHECK.due("promise 19: each of two lacks one", 2, c.flaws(1));
-        flawIs("promise 20: the one of YEAR 0 lacks it", c, 0, 5, 1);
-        flawIs("promise 20: the one of YEAR 1 lacks it", c, 1, 6, 2);
+        CHECK.flawIs("promise 20: the one of YEAR 0 lacks it", c, 0, 5, 1);
+        CHECK.flawIs("promise 20: the one of YEAR 1 lacks it", c, 1, 6, 2);
     }
 
     // "without a LAYING none tells"
@@ -166,9 +157,26 @@ public final class FlawEdgeTest {
         keepBase(c, 1, 1980);
         CHECK.due("promise 19: one tells", 1, c.flaws(1));
         // those of 1990 and 1991 have it as little as they lack it
-        flawIs("promise 20: one tells", c, 0, 5, 2000);
+        CHECK.flawIs("promise 20: one tells", c, 0, 5, 2000);
         c.keep(1, Draw.nothing(c, Draw.WHOLE), 2010);
         CHECK.due("promise 19: the latest has no POINTS", 0, c.flaws(1));
+    }
+
+    /** The latest print has two POINTS, the other one has one: two LAYINGS are as good. */
+    private static MarkCabinet twoAndOne() {
+        MarkCabinet c = new MarkCabinet();
+        c.keep(1, Draw.islands(c, Draw.WHOLE, Draw.at(7, 7)), 1990);
+        c.keep(1, Draw.islands(c, Draw.WHOLE, Draw.at(5, 5), Draw.at(9, 5)), 2000);
+        CHECK.due("promise 9: the first on the one", 7, c.lay(1, 0, 0, 2, 2));
+        CHECK.due("promise 9: the second on the one", 7, c.lay(1, 0, 0, -2, 2));
+        return c;
+    }
+
+    // "laid by the MATCH of the latest one (as a) with that (as b)": by the least dx, not by that of b on a
+    private static void promise19SeveralAsGood() {
+        MarkCabinet c = twoAndOne();
+        CHECK.due("promise 19: two LAYINGS as good", 1, c.flaws(1));
+        CHECK.flawIs("promise 20: two LAYINGS as good: the second has the PAIR", c, 0, 0, 2000);
     }
 
     private static void promise19EachReach() {
@@ -186,8 +194,8 @@ public final class FlawEdgeTest {
     private static void promise20FirstAndLastFlaw() {
         MarkCabinet c = twoFlaws(2010);
         CHECK.due("promise 20: two flaws", 2, c.flaws(1));
-        flawIs("promise 20: the first", c, 0, 5, 2000);
-        flawIs("promise 20: the last", c, 1, 6, 2010);
+        CHECK.flawIs("promise 20: the first", c, 0, 5, 2000);
+        CHECK.flawIs("promise 20: the last", c, 1, 6, 2010);
         CHECK.refuses("promise 20: flaw(1, #, 0)", -1, 0, 1, i -> c.flaw(1, i, 0));
         CHECK.refuses("promise 20: flaw(1, #, 1)", -1, 0, 1, i -> c.flaw(1, i, 1));
         keepBase(c, 2, 1);
@@ -200,7 +208,7 @@ public final class FlawEdgeTest {
         MarkCabinet c = twoFlaws(2010);
         CHECK.refuses("promise 20: flaw(1, 0, #)", -1, 0, 1, what -> c.flaw(1, 0, what));
         CHECK.refuses("promise 20: flaw(1, 1, #)", -1, 0, 1, what -> c.flaw(1, 1, what));
-        flawIs("promise 20: behind refusals", c, 0, 5, 2000);
+        CHECK.flawIs("promise 20: behind refusals", c, 0, 5, 2000);
     }
 
     // "NONE: none such; EMPTY."
@@ -234,9 +242,9 @@ public final class FlawEdgeTest {
         keepBase(c, 1, 30, LEFT, RIGHT);
         keepBase(c, 1, 40, first, LEFT, RIGHT);
         CHECK.due("promise 20: three flaws", 3, c.flaws(1));
-        flawIs("promise 20: the first POINT came last", c, 0, 0, 40);
-        flawIs("promise 20: the last POINT but one", c, 1, 6, 30);
-        flawIs("promise 20: the last POINT came first", c, 2, 7, 20);
+        CHECK.flawIs("promise 20: the first POINT came last", c, 0, 0, 40);
+        CHECK.flawIs("promise 20: the last POINT but one", c, 1, 6, 30);
+        CHECK.flawIs("promise 20: the last POINT came first", c, 2, 7, 20);
     }
 
     private static void promise20FirstAndLastYear() {
@@ -244,12 +252,12 @@ public final class FlawEdgeTest {
         keepBase(c, 1, 0);
         keepBase(c, 1, 1, LEFT);
         keepBase(c, 1, 9999, LEFT, RIGHT);
-        flawIs("promise 20: it comes with the second of all YEARS", c, 0, 5, 1);
-        flawIs("promise 20: it comes with the last YEAR", c, 1, 6, 9999);
+        CHECK.flawIs("promise 20: it comes with the second of all YEARS", c, 0, 5, 1);
+        CHECK.flawIs("promise 20: it comes with the last YEAR", c, 1, 6, 9999);
         MarkCabinet late = new MarkCabinet();
         keepBase(late, 1, 9998);
         keepBase(late, 1, 9999, LEFT);
-        flawIs("promise 20: the last two YEARS", late, 0, 5, 9999);
+        CHECK.flawIs("promise 20: the last two YEARS", late, 0, 5, 9999);
     }
 
     // "behind that of the last PRINT that lacks it", "the first YEAR"
@@ -261,11 +269,11 @@ public final class FlawEdgeTest {
         keepBase(c, 1, 31, LEFT);
         keepBase(c, 1, 10);
         CHECK.due("promise 20: one flaw", 1, c.flaws(1));
-        flawIs("promise 20: the first one behind 30", c, 0, 5, 31);
+        CHECK.flawIs("promise 20: the first one behind 30", c, 0, 5, 31);
         c.part(3);
-        flawIs("promise 20: the latest one has it", c, 0, 5, 50);
+        CHECK.flawIs("promise 20: the latest one has it", c, 0, 5, 50);
         c.part(2);
-        flawIs("promise 20: the last that lacks it is of 10 now", c, 0, 5, 20);
+        CHECK.flawIs("promise 20: the last that lacks it is of 10 now", c, 0, 5, 20);
         c.part(4);
         CHECK.due("promise 20: none lacks it", 0, c.flaws(1));
         CHECK.due("promise 20: none lacks it", -1, c.flaw(1, 0, 1));
@@ -278,12 +286,12 @@ public final class FlawEdgeTest {
         c.keep(1, base(c, 0x00FD), 20);
         keepBase(c, 1, 30, LEFT);
         keepBase(c, 1, 40, LEFT);
-        flawIs("promise 20: 20 neither has nor lacks it", c, 0, 5, 30);
+        CHECK.flawIs("promise 20: 20 neither has nor lacks it", c, 0, 5, 30);
         // its POINT is outside of its own part, and has a PAIR all the same
         c.keep(1, base(c, 0x00FD, LEFT), 19);
-        flawIs("promise 20: 19 has it", c, 0, 5, 19);
+        CHECK.flawIs("promise 20: 19 has it", c, 0, 5, 19);
         c.keep(1, base(c, 0x00FE), 21);
-        flawIs("promise 20: 21 lacks it", c, 0, 5, 30);
+        CHECK.flawIs("promise 20: 21 lacks it", c, 0, 5, 30);
     }
 
     /** Two earlier prints, each with every other POINT of the latest one: all twelve are lacking once. */
@@ -300,11 +308,11 @@ public final class FlawEdgeTest {
         CHECK.due("promise 19: twelve flaws", 12, c.flaws(1));
         for (int i = 0; i < 12; i++) {
             // the print of 100 lacks the odd ones, which that of 101 has
-            flawIs("promise 20: twelve flaws", c, i, i, i % 2 == 0 ? 200 : 101);
+            CHECK.flawIs("promise 20: twelve flaws", c, i, i, i % 2 == 0 ? 200 : 101);
         }
         CHECK.refuses("promise 20: flaw(1, #, 0) of twelve", -1, 0, 11, i -> c.flaw(1, i, 0));
         CHECK.refuses("promise 20: flaw(1, #, 1) of twelve", -1, 0, 11, i -> c.flaw(1, i, 1));
-        aged("promise 21: all twelve", c, Draw.islands(c, Draw.WHOLE, TWELVE), 1, 200, 10000);
+        CHECK.aged("promise 21: all twelve", c, Draw.islands(c, Draw.WHOLE, TWELVE), 1, 200, 10000);
     }
 
     private static void promise21FirstAndLastPrint() {
@@ -315,15 +323,15 @@ public final class FlawEdgeTest {
         keepBase(c, 1, 1990);
         keepBase(c, 1, 2000, LEFT);
         int last = base(c, Draw.WHOLE, LEFT);
-        aged("promise 21: the first print", c, first, 1, 0, 2000);
-        aged("promise 21: the last print", c, last, 1, 2000, 10000);
+        CHECK.aged("promise 21: the first print", c, first, 1, 0, 2000);
+        CHECK.aged("promise 21: the last print", c, last, 1, 2000, 10000);
         CHECK.refuses("promise 21: age(#, 1)", -1, 0, last, print -> c.age(print, 1));
         CHECK.due("promise 22: FROM behind refusals", 2000, c.struck(0));
         CHECK.due("promise 22: TILL behind refusals", 10000, c.struck(1));
         for (int k = last + 1; k < 24; k++) {
             c.print(Draw.WHOLE);
         }
-        aged("promise 21: the last of all prints", c, 23, 1, 2000, 10000);
+        CHECK.aged("promise 21: the last of all prints", c, 23, 1, 2000, 10000);
         CHECK.refuses("promise 21: age(#, 1) when full", -1, 0, 23, print -> c.age(print, 1));
     }
 
@@ -349,7 +357,7 @@ public final class FlawEdgeTest {
         CHECK.due("promise 21: one print", -4, c.age(p, 1));
         CHECK.due("promise 22: still before any", -1, c.struck(0));
         keepBase(c, 1, 2000, LEFT);
-        aged("promise 21: two prints", c, p, 1, 2000, 10000);
+        CHECK.aged("promise 21: two prints", c, p, 1, 2000, 10000);
         c.part(1);
         CHECK.due("promise 21: one print again", -4, c.age(p, 1));
         CHECK.due("promise 22: FROM behind refusals", 2000, c.struck(0));
@@ -364,11 +372,11 @@ public final class FlawEdgeTest {
         CHECK.due("promise 22: still before any", -1, c.struck(1));
         keepBase(c, 2, 1990);
         CHECK.due("promise 21: the only one of its tool", -4, c.age(3, 2));
-        aged("promise 21: a print of another tool", c, 3, 1, 0, 2000);
+        CHECK.aged("promise 21: a print of another tool", c, 3, 1, 0, 2000);
         c.part(1);
-        aged("promise 21: of none any more", c, 1, 0, 2010, 2010);
+        CHECK.aged("promise 21: of none any more", c, 1, 0, 2010, 2010);
         c.keep(0, 1, 5);
-        aged("promise 21: of the first tool", c, 1, 0, 2010, 2010);
+        CHECK.aged("promise 21: of the first tool", c, 1, 0, 2010, 2010);
     }
 
     private static void promise21NoneAheadOfEmpty() {
@@ -383,53 +391,60 @@ public final class FlawEdgeTest {
     // "If FROM is TILL or more it is a QUARREL."
     private static void promise21FromAndTillMeet() {
         MarkCabinet next = twoFlaws(2001);
-        aged("promise 21: FROM is just ahead of TILL", next, base(next, Draw.WHOLE, LEFT), 1, 2000, 2001);
-        aged("promise 21: FROM is just behind TILL", next, base(next, Draw.WHOLE, RIGHT), 0, 2001, 2000);
+        CHECK.aged("promise 21: FROM is just ahead of TILL", next, base(next, Draw.WHOLE, LEFT), 1, 2000, 2001);
+        CHECK.aged("promise 21: FROM is just behind TILL", next, base(next, Draw.WHOLE, RIGHT), 0, 2001, 2000);
         MarkCabinet same = new MarkCabinet();
         keepBase(same, 1, 1990);
         keepBase(same, 1, 2000, LEFT, RIGHT);
-        aged("promise 21: FROM is TILL", same, base(same, Draw.WHOLE, LEFT), 0, 2000, 2000);
-        aged("promise 21: FROM is TILL", same, base(same, Draw.WHOLE, RIGHT), 0, 2000, 2000);
+        CHECK.aged("promise 21: FROM is TILL", same, base(same, Draw.WHOLE, LEFT), 0, 2000, 2000);
+        CHECK.aged("promise 21: FROM is TILL", same, base(same, Draw.WHOLE, RIGHT), 0, 2000, 2000);
         MarkCabinet ends = new MarkCabinet();
         keepBase(ends, 1, 0);
         keepBase(ends, 1, 1, LEFT);
         keepBase(ends, 1, 9999, LEFT, RIGHT);
-        aged("promise 21: the least TILL", ends, base(ends, Draw.WHOLE), 1, 0, 1);
-        aged("promise 21: the greatest FROM", ends, base(ends, Draw.WHOLE, LEFT, RIGHT), 1, 9999, 10000);
-        aged("promise 21: as far apart as can be", ends, base(ends, Draw.WHOLE, RIGHT), 0, 9999, 1);
-        aged("promise 21: all YEARS between two", ends, base(ends, Draw.WHOLE, LEFT), 1, 1, 9999);
+        CHECK.aged("promise 21: the least TILL", ends, base(ends, Draw.WHOLE), 1, 0, 1);
+        CHECK.aged("promise 21: the greatest FROM", ends, base(ends, Draw.WHOLE, LEFT, RIGHT), 1, 9999, 10000);
+        CHECK.aged("promise 21: as far apart as can be", ends, base(ends, Draw.WHOLE, RIGHT), 0, 9999, 1);
+        CHECK.aged("promise 21: all YEARS between two", ends, base(ends, Draw.WHOLE, LEFT), 1, 1, 9999);
     }
 
     // "the greatest COMING of those that it has", "the least COMING of those that it lacks"
     private static void promise21GreatestAndLeastComing() {
         MarkCabinet c = twoFlaws(2010);
-        aged("promise 21: it has both", c, base(c, Draw.WHOLE, LEFT, RIGHT), 1, 2010, 10000);
-        aged("promise 21: it lacks both", c, base(c, Draw.WHOLE), 1, 0, 2000);
+        CHECK.aged("promise 21: it has both", c, base(c, Draw.WHOLE, LEFT, RIGHT), 1, 2010, 10000);
+        CHECK.aged("promise 21: it lacks both", c, base(c, Draw.WHOLE), 1, 0, 2000);
         MarkCabinet turned = new MarkCabinet();
         keepBase(turned, 1, 1990);
         keepBase(turned, 1, 2000, RIGHT);
         keepBase(turned, 1, 2010, LEFT, RIGHT);
         int both = base(turned, Draw.WHOLE, LEFT, RIGHT);
-        aged("promise 21: it has both, the first one came later", turned, both, 1, 2010, 10000);
-        aged("promise 21: it lacks both, the first one came later", turned, base(turned, Draw.WHOLE), 1, 0, 2000);
+        CHECK.aged("promise 21: it has both, the first one came later", turned, both, 1, 2010, 10000);
+        CHECK.aged("promise 21: it lacks both, the first one came later", turned, base(turned, Draw.WHOLE), 1, 0, 2000);
     }
 
     // "or does not tell", "(0: none)", "(10000: none)"
     private static void promise21DoesNotTell() {
         MarkCabinet c = twoFlaws(2010);
-        aged("promise 21: its part ends ahead of both", c, base(c, 0x00FD), 1, 0, 10000);
-        aged("promise 21: its part ends with both", c, base(c, 0x00FE), 1, 0, 2000);
-        aged("promise 21: its part ends ahead of the second", c, base(c, 0x00DF), 1, 0, 2000);
-        aged("promise 21: its part begins with the second", c, base(c, 0xE0FF), 1, 0, 2010);
-        aged("promise 21: its part begins behind the second", c, base(c, 0xF0FF), 1, 0, 10000);
-        aged("promise 21: it has one outside of its part", c, base(c, 0x00FD, LEFT), 1, 2000, 10000);
-        aged("promise 21: without POINTS", c, Draw.nothing(c, Draw.WHOLE), 1, 0, 10000);
+        CHECK.aged("promise 21: its part ends ahead of both", c, base(c, 0x00FD), 1, 0, 10000);
+        CHECK.aged("promise 21: its part ends with both", c, base(c, 0x00FE), 1, 0, 2000);
+        CHECK.aged("promise 21: its part ends ahead of the second", c, base(c, 0x00DF), 1, 0, 2000);
+        CHECK.aged("promise 21: its part begins with the second", c, base(c, 0xE0FF), 1, 0, 2010);
+        CHECK.aged("promise 21: its part begins behind the second", c, base(c, 0xF0FF), 1, 0, 10000);
+        CHECK.aged("promise 21: it has one outside of its part", c, base(c, 0x00FD, LEFT), 1, 2000, 10000);
+        CHECK.aged("promise 21: without POINTS", c, Draw.nothing(c, Draw.WHOLE), 1, 0, 10000);
         Draw.onto(c, "", "##", "", "####");
-        aged("promise 21: without a LAYING", c, c.print(Draw.WHOLE), 1, 0, 10000);
+        CHECK.aged("promise 21: without a LAYING", c, c.print(Draw.WHOLE), 1, 0, 10000);
         MarkCabinet without = new MarkCabinet();
         keepBase(without, 1, 1990);
         keepBase(without, 1, 2000);
-        aged("promise 21: a tool without flaws", without, base(without, Draw.WHOLE), 1, 0, 10000);
+        CHECK.aged("promise 21: a tool without flaws", without, base(without, Draw.WHOLE), 1, 0, 10000);
+    }
+
+    // "p (as b) is matched by the TOOL's latest PRINT (as a)"
+    private static void promise21SeveralAsGood() {
+        MarkCabinet c = twoAndOne();
+        int p = Draw.islands(c, Draw.WHOLE, Draw.at(6, 8));
+        CHECK.aged("promise 21: two LAYINGS as good", c, p, 1, 0, 2000);
     }
 
     private static void promise21EachReach() {
@@ -442,7 +457,7 @@ public final class FlawEdgeTest {
             c.reach(reach);
             for (int apart = 0; apart <= 4; apart++) {
                 boolean has = apart <= reach;
-                aged("promise 21: " + apart + " apart, REACH " + reach, c, prints[apart], 1, has ? 2010 : 2000,
+                CHECK.aged("promise 21: " + apart + " apart, REACH " + reach, c, prints[apart], 1, has ? 2010 : 2000,
                     has ? 10000 : 2010);
             }
         }
@@ -464,7 +479,7 @@ public final class FlawEdgeTest {
 
     private static void promise22LeastAndGreatestWhat() {
         MarkCabinet c = twoFlaws(2010);
-        aged("promise 22: an age", c, base(c, Draw.WHOLE, LEFT), 1, 2000, 2010);
+        CHECK.aged("promise 22: an age", c, base(c, Draw.WHOLE, LEFT), 1, 2000, 2010);
         CHECK.refuses("promise 22: struck(#)", -1, 0, 1, c::struck);
         CHECK.due("promise 22: FROM behind refusals", 2000, c.struck(0));
         CHECK.due("promise 22: TILL behind refusals", 2010, c.struck(1));
@@ -475,14 +490,14 @@ public final class FlawEdgeTest {
         MarkCabinet c = twoFlaws(2010);
         int quarrel = base(c, Draw.WHOLE, RIGHT);
         int nothing = Draw.nothing(c, Draw.WHOLE);
-        aged("promise 22: a QUARREL is told too", c, quarrel, 0, 2010, 2000);
+        CHECK.aged("promise 22: a QUARREL is told too", c, quarrel, 0, 2010, 2000);
         CHECK.due("promise 21: refused", -4, c.age(0, 1));
         CHECK.due("promise 21: refused", -4, c.age(quarrel, 0));
         CHECK.due("promise 21: refused", -1, c.age(quarrel, 10));
         CHECK.due("promise 21: refused", -1, c.age(5, 1));
         CHECK.due("promise 22: FROM stays", 2010, c.struck(0));
         CHECK.due("promise 22: TILL stays", 2000, c.struck(1));
-        aged("promise 22: nothing is left of the one before", c, nothing, 1, 0, 10000);
+        CHECK.aged("promise 22: nothing is left of the one before", c, nothing, 1, 0, 10000);
         c.part(1);
         c.reach(0);
         CHECK.due("promise 22: what comes later does not count", 10000, c.struck(1));

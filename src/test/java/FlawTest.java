@@ -38,17 +38,6 @@ public final class FlawTest {
         return Draw.islands(c, struck, all.toArray(new int[0][]));
     }
 
-    private static void flawIs(String of, MarkCabinet c, int i, int point, int comes) {
-        CHECK.due(of + ": the POINT of flaw " + i, point, c.flaw(1, i, 0));
-        CHECK.due(of + ": flaw " + i + " comes", comes, c.flaw(1, i, 1));
-    }
-
-    private static void aged(String of, MarkCabinet c, int print, int due, int from, int till) {
-        CHECK.due(of + ": age", due, c.age(print, 1));
-        CHECK.due(of + ": from", from, c.struck(0));
-        CHECK.due(of + ": till", till, c.struck(1));
-    }
-
     private static void flawsComeOverTheYears() {
         MarkCabinet c = new MarkCabinet();
         c.keep(1, base(c, Draw.WHOLE), 1990);
@@ -57,14 +46,14 @@ public final class FlawTest {
         CHECK.due("there is no flaw 0", -1, c.flaw(1, 0, 0));
         c.keep(1, base(c, Draw.WHOLE, LOW), 2000);
         CHECK.due("a flaw", 1, c.flaws(1));
-        flawIs("a flaw", c, 0, 5, 2000);
+        CHECK.flawIs("a flaw", c, 0, 5, 2000);
         c.keep(1, base(c, Draw.WHOLE, LOW), 2005);
         CHECK.due("still one", 1, c.flaws(1));
-        flawIs("still one", c, 0, 5, 2000);
+        CHECK.flawIs("still one", c, 0, 5, 2000);
         c.keep(1, base(c, Draw.WHOLE, LATE, LOW), 2010);
         CHECK.due("two", 2, c.flaws(1));
-        flawIs("by POINTS, not by YEARS", c, 0, 3, 2010);
-        flawIs("by POINTS, not by YEARS", c, 1, 6, 2000);
+        CHECK.flawIs("by POINTS, not by YEARS", c, 0, 3, 2010);
+        CHECK.flawIs("by POINTS, not by YEARS", c, 1, 6, 2000);
         CHECK.due("there is no flaw 2", -1, c.flaw(1, 2, 0));
         CHECK.due("another tool has none of them", -4, c.flaws(2));
     }
@@ -75,10 +64,10 @@ public final class FlawTest {
         c.keep(1, base(c, Draw.WHOLE, LOW), 2000);
         c.keep(1, base(c, Draw.WHOLE), 1990);
         CHECK.due("the flaws of the latest YEAR's print alone", 1, c.flaws(1));
-        flawIs("the latest YEAR", c, 0, 3, 2010);
+        CHECK.flawIs("the latest YEAR", c, 0, 3, 2010);
         c.part(0);
         CHECK.due("the latest one that is left", 1, c.flaws(1));
-        flawIs("the latest one that is left", c, 0, 5, 2000);
+        CHECK.flawIs("the latest one that is left", c, 0, 5, 2000);
     }
 
     private static void firstPointIsAFlaw() {
@@ -89,11 +78,11 @@ public final class FlawTest {
         c.keep(1, base(c, Draw.WHOLE), 1990);
         c.keep(1, base(c, Draw.WHOLE, first), 2010);
         CHECK.due("a flaw that is POINT 0", 1, c.flaws(1));
-        flawIs("a flaw that is POINT 0", c, 0, 0, 2000);
-        aged("it has POINT 0", c, base(c, Draw.WHOLE, first), 1, 2000, 10000);
-        aged("it lacks POINT 0", c, base(c, Draw.WHOLE), 1, 0, 2000);
+        CHECK.flawIs("a flaw that is POINT 0", c, 0, 0, 2000);
+        CHECK.aged("it has POINT 0", c, base(c, Draw.WHOLE, first), 1, 2000, 10000);
+        CHECK.aged("it lacks POINT 0", c, base(c, Draw.WHOLE), 1, 0, 2000);
         Draw.onto(c);
-        aged("without POINTS it does not tell", c, c.print(Draw.WHOLE), 1, 0, 10000);
+        CHECK.aged("without POINTS it does not tell", c, c.print(Draw.WHOLE), 1, 0, 10000);
     }
 
     private static void eachToolForItself() {
@@ -106,7 +95,7 @@ public final class FlawTest {
         CHECK.due("the flaws of one tool", 1, c.flaws(2));
         CHECK.due("it comes", 6000, c.flaw(2, 0, 1));
         CHECK.due("the flaws of another one", 1, c.flaws(1));
-        flawIs("the flaws of another one", c, 0, 5, 1990);
+        CHECK.flawIs("the flaws of another one", c, 0, 5, 1990);
         MarkCabinet early = new MarkCabinet();
         early.keep(1, base(early, Draw.WHOLE, LOW), 0);
         early.keep(1, base(early, Draw.WHOLE, LOW), 1);
@@ -129,9 +118,9 @@ public final class FlawTest {
         all[5] = new int[] {11, 14};
         c.keep(1, base(c, Draw.WHOLE, all), 2000);
         CHECK.due("the last of twelve", 1, c.flaws(1));
-        flawIs("the last of twelve", c, 0, 11, 2000);
-        aged("it has the last of twelve", c, base(c, Draw.WHOLE, all), 1, 2000, 10000);
-        aged("it lacks the last of twelve", c, base(c, Draw.WHOLE, more), 1, 0, 2000);
+        CHECK.flawIs("the last of twelve", c, 0, 11, 2000);
+        CHECK.aged("it has the last of twelve", c, base(c, Draw.WHOLE, all), 1, 2000, 10000);
+        CHECK.aged("it lacks the last of twelve", c, base(c, Draw.WHOLE, more), 1, 0, 2000);
     }
 
     private static void comesBehindTheLastThatLacks() {
@@ -143,7 +132,7 @@ public final class FlawTest {
         c.keep(1, base(c, Draw.WHOLE, LOW), 2020);
         c.keep(1, base(c, Draw.WHOLE, LOW), 2030);
         CHECK.due("one flaw, though it went and came", 1, c.flaws(1));
-        flawIs("behind the last that lacks it", c, 0, 5, 2020);
+        CHECK.flawIs("behind the last that lacks it", c, 0, 5, 2020);
     }
 
     private static void whatIsNotStruckDoesNotTell() {
@@ -151,15 +140,15 @@ public final class FlawTest {
         c.keep(1, base(c, NARROW), 1990);
         c.keep(1, base(c, Draw.WHOLE, LATE, LOW), 2010);
         CHECK.due("what may have been there is no flaw", 1, c.flaws(1));
-        flawIs("what was struck tells", c, 0, 3, 2010);
+        CHECK.flawIs("what was struck tells", c, 0, 3, 2010);
         c.keep(1, base(c, Draw.WHOLE), 1980);
         CHECK.due("an earlier print tells", 2, c.flaws(1));
-        flawIs("it comes with the first that has it", c, 1, 6, 2010);
+        CHECK.flawIs("it comes with the first that has it", c, 1, 6, 2010);
         c.keep(1, base(c, Draw.WHOLE, LATE, LOW), 2000);
-        flawIs("not with one that does not tell", c, 1, 6, 2000);
+        CHECK.flawIs("not with one that does not tell", c, 1, 6, 2000);
         // it was not struck there, but its POINT is there: what has a PAIR has it
         c.keep(1, base(c, NARROW, LOW), 1985);
-        flawIs("a PAIR outside of the STRUCK part", c, 1, 6, 1985);
+        CHECK.flawIs("a PAIR outside of the STRUCK part", c, 1, 6, 1985);
     }
 
     private static void withoutLayingNoneTells() {
@@ -170,11 +159,11 @@ public final class FlawTest {
         CHECK.due("an earlier print without POINTS", 0, c.flaws(1));
         CHECK.due("there is no flaw", -1, c.flaw(1, 0, 1));
         int other = base(c, Draw.WHOLE);
-        aged("without flaws", c, other, 1, 0, 10000);
+        CHECK.aged("without flaws", c, other, 1, 0, 10000);
         Draw.onto(c);
         c.keep(1, c.print(Draw.WHOLE), 2010);
         CHECK.due("a latest print without POINTS", 0, c.flaws(1));
-        aged("a latest print without POINTS", c, other, 1, 0, 10000);
+        CHECK.aged("a latest print without POINTS", c, other, 1, 0, 10000);
     }
 
     private static void firstAndLastYear() {
@@ -182,12 +171,12 @@ public final class FlawTest {
         c.keep(1, base(c, Draw.WHOLE), 0);
         c.keep(1, base(c, Draw.WHOLE, LOW), 1);
         CHECK.due("one flaw", 1, c.flaws(1));
-        flawIs("the first YEAR lacks it", c, 0, 5, 1);
+        CHECK.flawIs("the first YEAR lacks it", c, 0, 5, 1);
         c.part(1);
         c.keep(1, 1, 9999);
-        flawIs("the last YEAR has it", c, 0, 5, 9999);
-        aged("one that has it", c, base(c, Draw.WHOLE, LOW), 1, 9999, 10000);
-        aged("one that lacks it", c, base(c, Draw.WHOLE), 1, 0, 9999);
+        CHECK.flawIs("the last YEAR has it", c, 0, 5, 9999);
+        CHECK.aged("one that has it", c, base(c, Draw.WHOLE, LOW), 1, 9999, 10000);
+        CHECK.aged("one that lacks it", c, base(c, Draw.WHOLE), 1, 0, 9999);
     }
 
     private static void flawsRefuse() {
@@ -224,32 +213,32 @@ public final class FlawTest {
 
     private static void ageBetweenYears() {
         MarkCabinet c = twoFlaws();
-        aged("one that lacks both", c, base(c, Draw.WHOLE), 1, 0, 2000);
-        aged("one that has the first", c, base(c, Draw.WHOLE, LOW), 1, 2000, 2010);
+        CHECK.aged("one that lacks both", c, base(c, Draw.WHOLE), 1, 0, 2000);
+        CHECK.aged("one that has the first", c, base(c, Draw.WHOLE, LOW), 1, 2000, 2010);
         int both = base(c, Draw.WHOLE, LATE, LOW);
-        aged("one that has both", c, both, 1, 2010, 10000);
+        CHECK.aged("one that has both", c, both, 1, 2010, 10000);
         c.keep(2, both, 1990);
-        aged("one of another tool", c, both, 1, 2010, 10000);
+        CHECK.aged("one of another tool", c, both, 1, 2010, 10000);
         CHECK.due("age() is no match()", -1000, c.told(6));
     }
 
     private static void ageOfWhatDoesNotTell() {
         MarkCabinet c = twoFlaws();
-        aged("LATE is lacking, LOW does not tell", c, base(c, NARROW), 1, 0, 2010);
-        aged("LATE is there, LOW does not tell", c, base(c, NARROW, LATE), 1, 2010, 10000);
-        aged("LOW is there though not struck", c, base(c, NARROW, LOW), 1, 2000, 2010);
+        CHECK.aged("LATE is lacking, LOW does not tell", c, base(c, NARROW), 1, 0, 2010);
+        CHECK.aged("LATE is there, LOW does not tell", c, base(c, NARROW, LATE), 1, 2010, 10000);
+        CHECK.aged("LOW is there though not struck", c, base(c, NARROW, LOW), 1, 2000, 2010);
         Draw.onto(c);
-        aged("without a LAYING none tells", c, c.print(Draw.WHOLE), 1, 0, 10000);
+        CHECK.aged("without a LAYING none tells", c, c.print(Draw.WHOLE), 1, 0, 10000);
     }
 
     private static void quarrels() {
         MarkCabinet c = twoFlaws();
         int quarrel = base(c, Draw.WHOLE, LATE);
-        aged("it has the later one alone", c, quarrel, 0, 2010, 2000);
+        CHECK.aged("it has the later one alone", c, quarrel, 0, 2010, 2000);
         MarkCabinet same = new MarkCabinet();
         same.keep(1, base(same, Draw.WHOLE), 1990);
         same.keep(1, base(same, Draw.WHOLE, LATE, LOW), 2010);
-        aged("FROM is TILL", same, base(same, Draw.WHOLE, LOW), 0, 2010, 2010);
+        CHECK.aged("FROM is TILL", same, base(same, Draw.WHOLE, LOW), 0, 2010, 2010);
     }
 
     private static void ageRefuses() {

@@ -10,6 +10,7 @@ public final class MatchEdgeTest {
         promise9LeastAndGreatestShift();
         promise9CornersAreTurned();
         promise9PartsAreTurned();
+        promise9EachKind();
         promise9EachReach();
         promise9EachReachBesideTheGrid();
         promise9PartsBesideTheGrid();
@@ -37,21 +38,13 @@ public final class MatchEdgeTest {
         promise12LesserPointOfB();
         promise12NoneIsGreaterThanAll();
         promise12MostPairsGoFirst();
+        promise12LongestChain();
         promise12OldPairsAreGone();
         CHECK.end();
     }
 
     private static int[] at(int x, int y) {
         return Draw.at(x, y);
-    }
-
-    private static MarkCabinet ofIslands(int prints) {
-        MarkCabinet c = new MarkCabinet();
-        c.feed(7, 0x0100);
-        for (int k = 0; k < prints; k++) {
-            c.print(Draw.WHOLE);
-        }
-        return c;
     }
 
     /** Twelve ISLANDS, the first print, and twelve ENDS, the second one. */
@@ -67,12 +60,12 @@ public final class MatchEdgeTest {
     private static void promise9FirstAndLastPrint() {
         MarkCabinet empty = new MarkCabinet();
         CHECK.refuses("promise 9: lay(#, #) in an empty cabinet", -1000, 1, -1, p -> empty.lay(p, p, 0, 0, 0));
-        MarkCabinet c = ofIslands(2);
+        MarkCabinet c = Draw.ofIslands(2);
         CHECK.due("promise 9: lay(0, 1)", 10, c.lay(0, 1, 0, 0, 0));
         CHECK.due("promise 9: lay(1, 0)", 10, c.lay(1, 0, 0, 0, 0));
         CHECK.refuses("promise 9: lay(#, 0)", -1000, 0, 1, p -> c.lay(p, 0, 0, 0, 0));
         CHECK.refuses("promise 9: lay(0, #)", -1000, 0, 1, p -> c.lay(0, p, 0, 0, 0));
-        MarkCabinet full = ofIslands(24);
+        MarkCabinet full = Draw.ofIslands(24);
         CHECK.due("promise 9: lay(23, 0)", 10, full.lay(23, 0, 0, 0, 0));
         CHECK.due("promise 9: lay(0, 23)", 10, full.lay(0, 23, 0, 0, 0));
         CHECK.refuses("promise 9: lay(#, 23)", -1000, 0, 23, p -> full.lay(p, 23, 0, 0, 0));
@@ -80,7 +73,7 @@ public final class MatchEdgeTest {
     }
 
     private static void promise9LeastAndGreatestTurn() {
-        MarkCabinet c = ofIslands(1);
+        MarkCabinet c = Draw.ofIslands(1);
         c.reach(0);
         // (7, 7) comes to (8, 7), (8, 8), (7, 8)
         int[] dx = {0, -1, -1, 0};
@@ -94,7 +87,7 @@ public final class MatchEdgeTest {
 
     // "dx, dy -30 .. 30"
     private static void promise9LeastAndGreatestShift() {
-        MarkCabinet c = ofIslands(1);
+        MarkCabinet c = Draw.ofIslands(1);
         for (int shift = -30; shift <= 30; shift++) {
             // of (7, 7) there are 7 cells to the left and 8 to the right: by 8 one POINT still lies in the other's part
             int far = Math.abs(shift);
@@ -155,9 +148,31 @@ public final class MatchEdgeTest {
         }
     }
 
+    // "if they are of one KIND"
+    private static void promise9EachKind() {
+        MarkCabinet c = new MarkCabinet();
+        // of each KIND one POINT, or two of the ENDS, and the first of them at the same place
+        String[][] pictures = {{"", ".#"}, {"", ".##"}, {"", ".##", ".##"}};
+        int[] prints = new int[3];
+        for (int kind = 0; kind < 3; kind++) {
+            Draw.onto(c, pictures[kind]);
+            prints[kind] = c.print(Draw.WHOLE);
+            CHECK.due("promise 7: the KIND of the first", kind, c.point(prints[kind], 2));
+        }
+        // each one behind each other one: nothing of an earlier LAYING must be left
+        for (int k = 0; k < 27; k++) {
+            int a = prints[k % 3];
+            int b = prints[k / 3 % 3];
+            c.lay(prints[k / 9], prints[k / 9], 0, 0, 0);
+            c.lay(a, b, 0, 0, 0);
+            CHECK.due("promise 9: KIND " + k % 3 + " on " + k / 3 % 3, a != b ? 0 : k % 3 == 1 ? 2 : 1, c.told(0));
+            CHECK.due("promise 12: KIND " + k % 3 + " on " + k / 3 % 3, a != b ? -1 : 0, c.pair(0));
+        }
+    }
+
     // "their columns, and rows, are at most REACH (0 .. 3; 1 at first) apart"
     private static void promise9EachReach() {
-        MarkCabinet c = ofIslands(1);
+        MarkCabinet c = Draw.ofIslands(1);
         for (int reach = 0; reach <= 3; reach++) {
             c.reach(reach);
             for (int sx = -1; sx <= 1; sx++) {
@@ -247,7 +262,7 @@ public final class MatchEdgeTest {
     }
 
     private static void promise9RefusedChangesNothing() {
-        MarkCabinet c = ofIslands(2);
+        MarkCabinet c = Draw.ofIslands(2);
         int[][] wrong = {{-1, 0, 0, 0, 0}, {2, 0, 0, 0, 0}, {0, -1, 0, 0, 0}, {0, 2, 0, 0, 0}, {0, 1, -1, 0, 0},
             {0, 1, 4, 0, 0}, {0, 1, 0, -31, 0}, {0, 1, 0, 31, 0}, {0, 1, 0, 0, -31}, {0, 1, 0, 0, 31}};
         for (int[] w : wrong) {
@@ -265,12 +280,12 @@ public final class MatchEdgeTest {
     private static void promise10FirstAndLastPrint() {
         MarkCabinet empty = new MarkCabinet();
         CHECK.refuses("promise 10: match(#, #) in an empty cabinet", -1000, 1, -1, p -> empty.match(p, p));
-        MarkCabinet c = ofIslands(2);
+        MarkCabinet c = Draw.ofIslands(2);
         CHECK.due("promise 10: match(0, 1)", 10, c.match(0, 1));
         CHECK.due("promise 10: match(1, 0)", 10, c.match(1, 0));
         CHECK.refuses("promise 10: match(#, 0)", -1000, 0, 1, p -> c.match(p, 0));
         CHECK.refuses("promise 10: match(0, #)", -1000, 0, 1, p -> c.match(0, p));
-        MarkCabinet full = ofIslands(24);
+        MarkCabinet full = Draw.ofIslands(24);
         CHECK.due("promise 10: match(23, 0)", 10, full.match(23, 0));
         CHECK.due("promise 10: match(0, 23)", 10, full.match(0, 23));
         CHECK.due("promise 10: match(23, 23)", 10, full.match(23, 23));
@@ -414,7 +429,7 @@ public final class MatchEdgeTest {
     }
 
     private static void promise10RefusedChangesNothing() {
-        MarkCabinet c = ofIslands(2);
+        MarkCabinet c = Draw.ofIslands(2);
         CHECK.refuses("promise 10: match(#, 0)", -1000, 0, 1, p -> c.match(p, 0));
         CHECK.refuses("promise 10: match(0, #)", -1000, 0, 1, p -> c.match(0, p));
         CHECK.due("promise 11: still before any", -1000, c.told(6));
@@ -439,7 +454,7 @@ public final class MatchEdgeTest {
 
     // "or before any"
     private static void promise11BeforeAny() {
-        MarkCabinet c = ofIslands(3);
+        MarkCabinet c = Draw.ofIslands(3);
         c.keep(0, 0, 1);
         c.keep(0, 1, 2);
         c.keep(1, 2, 2);
@@ -461,7 +476,7 @@ public final class MatchEdgeTest {
 
     // "Of the latest match(), lay() that was not refused"
     private static void promise11TheLatestOne() {
-        MarkCabinet c = ofIslands(1);
+        MarkCabinet c = Draw.ofIslands(1);
         int two = Draw.islands(c, Draw.WHOLE, at(3, 3), at(10, 6));
         c.match(two, two);
         CHECK.told("promise 11: a match", c, 2, 0, 20, 0, 0, 0, 1);
@@ -487,7 +502,7 @@ public final class MatchEdgeTest {
     }
 
     private static void promise12BeforeAny() {
-        MarkCabinet c = ofIslands(1);
+        MarkCabinet c = Draw.ofIslands(1);
         for (int i = -1; i <= 12; i++) {
             CHECK.due("promise 12: pair(" + i + ") before any", -1, c.pair(i));
         }
@@ -581,6 +596,27 @@ public final class MatchEdgeTest {
         c.lay(more, rest, 0, 0, 0);
         CHECK.told("promise 12: all three", c, 3, 0, 30);
         CHECK.paired("promise 12: all three", c, 1, 2, 0);
+    }
+
+    /** The last of twelve MAY PAIR with one of b alone, which all the others must then leave to one another in turn. */
+    private static void promise12LongestChain() {
+        MarkCabinet c = new MarkCabinet();
+        // down the left edge and along the lower one; half a TURN makes the last of a the uppermost
+        int[][] a = {{0, 0}, {0, 2}, {0, 4}, {0, 6}, {0, 8}, {0, 10}, {0, 12}, {2, 14}, {4, 14}, {6, 14}, {8, 14},
+            {10, 14}};
+        int[][] b = {{0, 1}, {0, 3}, {0, 5}, {0, 7}, {0, 9}, {0, 11}, {1, 13}, {3, 14}, {5, 14}, {7, 14}, {9, 14},
+            {11, 14}};
+        for (int[] place : a) {
+            place[0] = 15 - place[0];
+            place[1] = 15 - place[1];
+        }
+        int upper = Draw.islands(c, Draw.WHOLE, a);
+        int lower = Draw.islands(c, Draw.WHOLE, b);
+        CHECK.due("promise 9: twelve in a chain", 120, c.lay(upper, lower, 2, 0, 0));
+        CHECK.told("promise 11: twelve in a chain", c, 12, 0, 120, 2, 0, 0, 1);
+        CHECK.paired("promise 12: twelve in a chain", c, 11, 10, 9, 8, 7, 6, 5, 4, 3, 2, 1, 0);
+        CHECK.due("promise 9: the chain the other way", 120, c.lay(lower, upper, 2, 0, 0));
+        CHECK.paired("promise 12: the chain the other way", c, 11, 10, 9, 8, 7, 6, 5, 4, 3, 2, 1, 0);
     }
 
     private static void promise12OldPairsAreGone() {

@@ -30,7 +30,7 @@ public final class ModelTest {
                 test.feed(y, y % 4 == 3 ? 0 : test.below(65536));
             }
             int forks = test.model.forksByRecursion();
-            int others = test.model.count(3);
+            int others = test.cabinet.count(3);
             for (int y = 0; y < 16; y++) {
                 others -= Integer.bitCount(test.lonely(y));
             }
@@ -47,9 +47,9 @@ public final class ModelTest {
                 int xx = x + k % 3 - 1;
                 int yy = y + k / 3 - 1;
                 boolean inGrid = xx >= 0 && xx < 16 && yy >= 0 && yy < 16;
-                around += k != 4 && inGrid && (cabinet.row(yy) >> 15 - xx & 1) == 1 ? 1 : 0;
+                around += k != 4 && inGrid && (model.row(yy) >> 15 - xx & 1) == 1 ? 1 : 0;
             }
-            if ((cabinet.row(y) >> 15 - x & 1) == 1 && around < 2) {
+            if ((model.row(y) >> 15 - x & 1) == 1 && around < 2) {
                 bits |= 1 << 15 - x;
             }
         }

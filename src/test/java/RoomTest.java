@@ -11,7 +11,7 @@ public final class RoomTest {
         int calls = useAll(cabinet);
         long bytes = allocated() - before;
         System.out.println("RoomTest: " + bytes + " bytes made by " + calls + " calls");
-        CHECK.holds("the run is as long as the document lets it be", calls >= 500);
+        CHECK.due("the run is as long as the document lets it be", 512, calls);
         CHECK.holds("512 calls make less than 24 prints' worth and some", bytes < 16_000);
         CHECK.end();
     }
@@ -34,7 +34,7 @@ public final class RoomTest {
             c.keep(k % 3, k, k);
             calls += 3;
         }
-        for (int k = 0; calls < 500; k++) {
+        for (int k = 0; calls <= 512 - 11; k++) {
             c.reach(k % 4);
             c.strangers(k, 0);
             c.like(k % 24);
@@ -47,6 +47,9 @@ public final class RoomTest {
             c.print(-1);
             c.print(Draw.WHOLE);
             calls += 11;
+        }
+        for (; calls < 512; calls++) {
+            CHECK.due("a last call", 24, c.count(0));
         }
         return calls;
     }

@@ -42,64 +42,49 @@ public final class ToolEdgeTest {
         return Draw.at(x, y);
     }
 
-    /** A cabinet with some prints of one ISLAND each. */
-    private static MarkCabinet ofIslands(int prints) {
-        MarkCabinet c = new MarkCabinet();
-        c.feed(7, 0x0100);
-        for (int k = 0; k < prints; k++) {
-            c.print(Draw.WHOLE);
-        }
-        return c;
-    }
-
     /** All 24 prints, of tools 0 to 9 in turn. */
     private static MarkCabinet fullOfTools() {
-        MarkCabinet c = ofIslands(24);
+        MarkCabinet c = Draw.ofIslands(24);
         for (int k = 0; k < 24; k++) {
             CHECK.due("promise 13: print " + k, 1 + k / 10, c.keep(k % 10, k, k));
         }
         return c;
     }
 
-    private static void belongs(String of, MarkCabinet c, int print, int tool, int year) {
-        CHECK.due(of + ": of(" + print + ", 0)", tool, c.of(print, 0));
-        CHECK.due(of + ": of(" + print + ", 1)", year, c.of(print, 1));
-    }
-
     // "TOOLS 0 .. 9"
     private static void promise13FirstAndLastTool() {
-        MarkCabinet c = ofIslands(3);
+        MarkCabinet c = Draw.ofIslands(3);
         CHECK.refuses("promise 13: keep(#, 2, 5)", -1, 0, 9, tool -> c.keep(tool, 2, 5));
         CHECK.due("promise 13: keep(0, 0, 5)", 1, c.keep(0, 0, 5));
         CHECK.due("promise 13: keep(9, 1, 5)", 1, c.keep(9, 1, 5));
         CHECK.refuses("promise 13: keep(#, 2, 6)", -1, 0, 9, tool -> c.keep(tool, 2, 6));
-        belongs("promise 13: the first tool", c, 0, 0, 5);
-        belongs("promise 13: the last tool", c, 1, 9, 5);
-        belongs("promise 13: what is refused changes nothing", c, 2, -1, -1);
+        CHECK.belongs("promise 13: the first tool", c, 0, 0, 5);
+        CHECK.belongs("promise 13: the last tool", c, 1, 9, 5);
+        CHECK.belongs("promise 13: what is refused changes nothing", c, 2, -1, -1);
     }
 
     private static void promise13FirstAndLastPrint() {
         MarkCabinet empty = new MarkCabinet();
         CHECK.refuses("promise 13: keep(0, #, 5) in an empty cabinet", -1, 1, -1, print -> empty.keep(0, print, 5));
-        MarkCabinet c = ofIslands(2);
+        MarkCabinet c = Draw.ofIslands(2);
         CHECK.refuses("promise 13: keep(0, #, 5)", -1, 0, 1, print -> c.keep(0, print, 5));
         CHECK.due("promise 13: tools behind refusals", 0, c.count(1));
         CHECK.due("promise 13: keep(0, 1, 5)", 1, c.keep(0, 1, 5));
         CHECK.due("promise 13: keep(0, 0, 6)", 2, c.keep(0, 0, 6));
-        MarkCabinet full = ofIslands(24);
+        MarkCabinet full = Draw.ofIslands(24);
         CHECK.refuses("promise 13: keep(0, #, 5) when full", -1, 0, 23, print -> full.keep(0, print, 5));
         CHECK.due("promise 13: keep(0, 23, 5)", 1, full.keep(0, 23, 5));
     }
 
     // "a YEAR (0 .. 9999)"
     private static void promise13FirstAndLastYear() {
-        MarkCabinet c = ofIslands(3);
+        MarkCabinet c = Draw.ofIslands(3);
         CHECK.refuses("promise 13: keep(3, 0, #)", -1, 0, 9999, year -> c.keep(3, 0, year));
-        belongs("promise 13: what is refused changes nothing", c, 0, -1, -1);
+        CHECK.belongs("promise 13: what is refused changes nothing", c, 0, -1, -1);
         CHECK.due("promise 13: the first YEAR", 1, c.keep(3, 0, 0));
         CHECK.due("promise 13: the last YEAR", 2, c.keep(3, 1, 9999));
-        belongs("promise 13: the first YEAR", c, 0, 3, 0);
-        belongs("promise 13: the last YEAR", c, 1, 3, 9999);
+        CHECK.belongs("promise 13: the first YEAR", c, 0, 3, 0);
+        CHECK.belongs("promise 13: the last YEAR", c, 1, 3, 9999);
         CHECK.due("promise 13: the first YEAR is there", -3, c.keep(3, 2, 0));
         CHECK.due("promise 13: the last YEAR is there", -3, c.keep(3, 2, 9999));
         CHECK.refuses("promise 13: keep(3, 2, #)", -1, 0, 9999, year -> c.keep(3, 2, year));
@@ -107,13 +92,13 @@ public final class ToolEdgeTest {
 
     // "THERE: the PRINT is of a TOOL"
     private static void promise13PrintIsThere() {
-        MarkCabinet c = ofIslands(2);
+        MarkCabinet c = Draw.ofIslands(2);
         c.keep(0, 0, 0);
         for (int tool = 0; tool <= 9; tool++) {
             CHECK.due("promise 13: it is of a tool, keep(" + tool + ", 0, 1)", -3, c.keep(tool, 0, 1));
         }
         CHECK.due("promise 13: with all as it is", -3, c.keep(0, 0, 0));
-        belongs("promise 13: what is refused changes nothing", c, 0, 0, 0);
+        CHECK.belongs("promise 13: what is refused changes nothing", c, 0, 0, 0);
         CHECK.due("promise 13: one tool", 1, c.count(1));
         c.part(0);
         CHECK.due("promise 13: it is of none any more", 1, c.keep(9, 0, 9999));
@@ -121,10 +106,10 @@ public final class ToolEdgeTest {
 
     // "or it has one of that YEAR"
     private static void promise13YearIsThere() {
-        MarkCabinet c = ofIslands(5);
+        MarkCabinet c = Draw.ofIslands(5);
         c.keep(4, 0, 1990);
         CHECK.due("promise 13: that YEAR", -3, c.keep(4, 1, 1990));
-        belongs("promise 13: what is refused changes nothing", c, 1, -1, -1);
+        CHECK.belongs("promise 13: what is refused changes nothing", c, 1, -1, -1);
         CHECK.due("promise 13: the YEAR before", 2, c.keep(4, 1, 1989));
         CHECK.due("promise 13: the YEAR behind", 3, c.keep(4, 2, 1991));
         CHECK.due("promise 13: that YEAR of another tool", 1, c.keep(5, 3, 1990));
@@ -134,22 +119,22 @@ public final class ToolEdgeTest {
     }
 
     private static void promise13NoneAheadOfThere() {
-        MarkCabinet c = ofIslands(2);
+        MarkCabinet c = Draw.ofIslands(2);
         c.keep(0, 0, 7);
         CHECK.refuses("promise 13: keep(#, 0, 7)", -1, 0, 9, tool -> c.keep(tool, 0, 7));
         CHECK.refuses("promise 13: keep(0, #, 7)", -1, 0, 1, print -> c.keep(0, print, 7));
         CHECK.refuses("promise 13: keep(0, 0, #)", -1, 0, 9999, year -> c.keep(0, 0, year));
-        belongs("promise 13: what is refused changes nothing", c, 0, 0, 7);
+        CHECK.belongs("promise 13: what is refused changes nothing", c, 0, 0, 7);
     }
 
     private static void promise13AllPrintsOfOneTool() {
-        MarkCabinet c = ofIslands(24);
+        MarkCabinet c = Draw.ofIslands(24);
         for (int k = 0; k < 24; k++) {
             CHECK.due("promise 13: all of one tool", k + 1, c.keep(9, k, 9999 - k));
         }
         for (int k = 0; k < 24; k++) {
             CHECK.due("promise 13: each is there", -3, c.keep(9, k, 0));
-            belongs("promise 13: all of one tool", c, k, 9, 9999 - k);
+            CHECK.belongs("promise 13: all of one tool", c, k, 9, 9999 - k);
         }
     }
 
@@ -160,28 +145,28 @@ public final class ToolEdgeTest {
         CHECK.refuses("promise 14: part(#) when full", -1, 0, 23, c::part);
         CHECK.due("promise 14: part(0)", 1, c.part(0));
         CHECK.due("promise 14: part(23)", 1, c.part(23));
-        belongs("promise 14: the first", c, 0, -1, -1);
-        belongs("promise 14: the last", c, 23, -1, -1);
-        belongs("promise 14: the second stays", c, 1, 1, 1);
-        belongs("promise 14: the last but one stays", c, 22, 2, 22);
-        MarkCabinet two = ofIslands(2);
+        CHECK.belongs("promise 14: the first", c, 0, -1, -1);
+        CHECK.belongs("promise 14: the last", c, 23, -1, -1);
+        CHECK.belongs("promise 14: the second stays", c, 1, 1, 1);
+        CHECK.belongs("promise 14: the last but one stays", c, 22, 2, 22);
+        MarkCabinet two = Draw.ofIslands(2);
         CHECK.refuses("promise 14: part(#)", -1, 0, 1, two::part);
     }
 
     // "EMPTY: it is of none."
     private static void promise14OfNone() {
-        MarkCabinet c = ofIslands(2);
+        MarkCabinet c = Draw.ofIslands(2);
         CHECK.due("promise 14: never of a tool", -4, c.part(0));
         c.keep(0, 0, 0);
         CHECK.due("promise 14: of the first tool and the first YEAR", 1, c.part(0));
         CHECK.due("promise 14: not any more", -4, c.part(0));
-        belongs("promise 14: what is refused changes nothing", c, 0, -1, -1);
+        CHECK.belongs("promise 14: what is refused changes nothing", c, 0, -1, -1);
         CHECK.due("promise 14: it comes back", 1, c.keep(0, 0, 0));
         CHECK.due("promise 14: it goes again", 1, c.part(0));
     }
 
     private static void promise14TheOnlyPrint() {
-        MarkCabinet c = ofIslands(2);
+        MarkCabinet c = Draw.ofIslands(2);
         c.keep(6, 0, 10);
         CHECK.due("promise 14: tools", 1, c.count(1));
         c.part(0);
@@ -196,73 +181,73 @@ public final class ToolEdgeTest {
     private static void promise15FirstAndLastPrint() {
         MarkCabinet empty = new MarkCabinet();
         CHECK.refuses("promise 15: of(#, 0) in an empty cabinet", -1000, 1, -1, print -> empty.of(print, 0));
-        MarkCabinet c = ofIslands(2);
+        MarkCabinet c = Draw.ofIslands(2);
         CHECK.refuses("promise 15: of(#, 0)", -1000, 0, 1, print -> c.of(print, 0));
         CHECK.refuses("promise 15: of(#, 1)", -1000, 0, 1, print -> c.of(print, 1));
         MarkCabinet full = fullOfTools();
         CHECK.refuses("promise 15: of(#, 0) when full", -1000, 0, 23, print -> full.of(print, 0));
-        belongs("promise 15: the first", full, 0, 0, 0);
-        belongs("promise 15: the last", full, 23, 3, 23);
+        CHECK.belongs("promise 15: the first", full, 0, 0, 0);
+        CHECK.belongs("promise 15: the last", full, 23, 3, 23);
     }
 
     private static void promise15LeastAndGreatestWhat() {
-        MarkCabinet c = ofIslands(2);
+        MarkCabinet c = Draw.ofIslands(2);
         c.keep(7, 0, 70);
         CHECK.refuses("promise 15: of(0, #)", -1000, 0, 1, what -> c.of(0, what));
         CHECK.refuses("promise 15: of(1, #)", -1000, 0, 1, what -> c.of(1, what));
         CHECK.due("promise 15: neither is as said", -1000, c.of(2, 2));
-        belongs("promise 15: behind refusals", c, 0, 7, 70);
+        CHECK.belongs("promise 15: behind refusals", c, 0, 7, 70);
     }
 
     // "(what 0; -1: of none), its YEAR (1; -1)"
     private static void promise15LeastAndGreatestAnswers() {
-        MarkCabinet c = ofIslands(2);
-        belongs("promise 15: of none", c, 0, -1, -1);
+        MarkCabinet c = Draw.ofIslands(2);
+        CHECK.belongs("promise 15: of none", c, 0, -1, -1);
         c.keep(0, 0, 0);
         c.keep(9, 1, 9999);
-        belongs("promise 15: the least", c, 0, 0, 0);
-        belongs("promise 15: the greatest", c, 1, 9, 9999);
+        CHECK.belongs("promise 15: the least", c, 0, 0, 0);
+        CHECK.belongs("promise 15: the greatest", c, 1, 9, 9999);
         c.part(0);
-        belongs("promise 15: of none any more", c, 0, -1, -1);
+        CHECK.belongs("promise 15: of none any more", c, 0, -1, -1);
     }
 
     private static void promise16FirstAndLastTool() {
-        MarkCabinet c = ofIslands(2);
+        MarkCabinet c = Draw.ofIslands(2);
         c.keep(0, 0, 1);
         c.keep(9, 1, 2);
         CHECK.refuses("promise 16: melt(#, 0)", -1, 0, 9, tool -> c.melt(tool, 0));
         CHECK.refuses("promise 16: melt(9, #)", -1, 0, 9, tool -> c.melt(9, tool));
-        belongs("promise 16: what is refused changes nothing", c, 0, 0, 1);
-        belongs("promise 16: what is refused changes nothing", c, 1, 9, 2);
+        CHECK.belongs("promise 16: what is refused changes nothing", c, 0, 0, 1);
+        CHECK.belongs("promise 16: what is refused changes nothing", c, 1, 9, 2);
         CHECK.due("promise 16: melt(9, 0)", 2, c.melt(9, 0));
-        belongs("promise 16: the first becomes one of the last tool", c, 0, 9, 1);
+        CHECK.belongs("promise 16: the first becomes one of the last tool", c, 0, 9, 1);
         CHECK.due("promise 16: melt(0, 9)", 2, c.melt(0, 9));
-        belongs("promise 16: and back", c, 0, 0, 1);
-        belongs("promise 16: with all the others", c, 1, 0, 2);
+        CHECK.belongs("promise 16: and back", c, 0, 0, 1);
+        CHECK.belongs("promise 16: with all the others", c, 1, 0, 2);
     }
 
     // "NONE (also the same one)"
     private static void promise16TheSameOne() {
-        MarkCabinet c = ofIslands(2);
+        MarkCabinet c = Draw.ofIslands(2);
         c.keep(3, 0, 1);
         c.keep(3, 1, 2);
         for (int tool = -1; tool <= 10; tool++) {
             CHECK.due("promise 16: melt(" + tool + ", " + tool + ")", -1, c.melt(tool, tool));
         }
-        belongs("promise 16: what is refused changes nothing", c, 0, 3, 1);
-        belongs("promise 16: what is refused changes nothing", c, 1, 3, 2);
+        CHECK.belongs("promise 16: what is refused changes nothing", c, 0, 3, 1);
+        CHECK.belongs("promise 16: what is refused changes nothing", c, 1, 3, 2);
     }
 
     private static void promise16EmptyTools() {
-        MarkCabinet c = ofIslands(3);
+        MarkCabinet c = Draw.ofIslands(3);
         CHECK.due("promise 16: both are empty", 0, c.melt(4, 5));
         c.keep(4, 0, 1);
         c.keep(4, 1, 2);
         CHECK.due("promise 16: the second is empty", 2, c.melt(4, 5));
         CHECK.due("promise 16: the first is empty", 2, c.melt(5, 4));
-        belongs("promise 16: the first was empty", c, 0, 5, 1);
-        belongs("promise 16: the first was empty", c, 1, 5, 2);
-        belongs("promise 16: one of no tool stays", c, 2, -1, -1);
+        CHECK.belongs("promise 16: the first was empty", c, 0, 5, 1);
+        CHECK.belongs("promise 16: the first was empty", c, 1, 5, 2);
+        CHECK.belongs("promise 16: one of no tool stays", c, 2, -1, -1);
         CHECK.due("promise 16: one tool is left", 1, c.count(1));
         CHECK.due("promise 16: the one that is empty now", -4, c.flaws(4));
         CHECK.due("promise 16: it takes prints again", 1, c.keep(4, 2, 1));
@@ -270,7 +255,7 @@ public final class ToolEdgeTest {
 
     // "THERE: both have one of one YEAR."
     private static void promise16YearsMeet() {
-        MarkCabinet c = ofIslands(6);
+        MarkCabinet c = Draw.ofIslands(6);
         c.keep(1, 0, 10);
         c.keep(1, 1, 20);
         c.keep(1, 2, 30);
@@ -281,7 +266,7 @@ public final class ToolEdgeTest {
         CHECK.due("promise 16: the other way round", -3, c.melt(2, 1));
         for (int k = 0; k < 6; k++) {
             int[] years = {10, 20, 30, 9, 11, 30};
-            belongs("promise 16: what is refused changes nothing", c, k, 1 + k / 3, years[k]);
+            CHECK.belongs("promise 16: what is refused changes nothing", c, k, 1 + k / 3, years[k]);
         }
         c.part(5);
         c.keep(2, 5, 10);
@@ -289,9 +274,9 @@ public final class ToolEdgeTest {
         c.part(5);
         c.keep(2, 5, 31);
         CHECK.due("promise 16: YEARS beside one another", 6, c.melt(1, 2));
-        belongs("promise 16: they keep their YEARS", c, 3, 1, 9);
-        belongs("promise 16: they keep their YEARS", c, 5, 1, 31);
-        MarkCabinet ends = ofIslands(4);
+        CHECK.belongs("promise 16: they keep their YEARS", c, 3, 1, 9);
+        CHECK.belongs("promise 16: they keep their YEARS", c, 5, 1, 31);
+        MarkCabinet ends = Draw.ofIslands(4);
         ends.keep(1, 0, 0);
         ends.keep(2, 1, 9999);
         ends.keep(3, 2, 0);
@@ -302,7 +287,7 @@ public final class ToolEdgeTest {
     }
 
     private static void promise16NoneAheadOfThere() {
-        MarkCabinet c = ofIslands(2);
+        MarkCabinet c = Draw.ofIslands(2);
         c.keep(0, 0, 7);
         c.keep(9, 1, 7);
         CHECK.due("promise 16: THERE", -3, c.melt(0, 9));
@@ -319,7 +304,7 @@ public final class ToolEdgeTest {
             CHECK.due("promise 16: tools that are left", 10 - tool, c.count(1));
         }
         for (int k = 0; k < 24; k++) {
-            belongs("promise 16: all of one tool", c, k, 0, k);
+            CHECK.belongs("promise 16: all of one tool", c, k, 0, k);
         }
         CHECK.due("promise 16: all of them into an empty one", 24, c.melt(9, 0));
     }
@@ -331,13 +316,13 @@ public final class ToolEdgeTest {
         CHECK.refuses("promise 17: like(#) when full", -1, 0, 23, c::like);
         CHECK.due("promise 17: like(0)", 0, c.like(0));
         CHECK.due("promise 17: like(23)", 0, c.like(23));
-        MarkCabinet two = ofIslands(2);
+        MarkCabinet two = Draw.ofIslands(2);
         CHECK.refuses("promise 17: like(#)", -1, 0, 1, two::like);
     }
 
     // "EMPTY: there is none."
     private static void promise17ThereIsNone() {
-        MarkCabinet c = ofIslands(3);
+        MarkCabinet c = Draw.ofIslands(3);
         for (int print = 0; print < 3; print++) {
             CHECK.due("promise 17: no tool has prints", -4, c.like(print));
         }
@@ -354,7 +339,7 @@ public final class ToolEdgeTest {
 
     // "of several the least TOOL"
     private static void promise17LeastToolOfSeveral() {
-        MarkCabinet c = ofIslands(11);
+        MarkCabinet c = Draw.ofIslands(11);
         // the prints' numbers fall as the tools' numbers rise
         for (int tool = 9; tool >= 0; tool--) {
             c.keep(tool, 9 - tool, 5);
@@ -420,7 +405,7 @@ public final class ToolEdgeTest {
     }
 
     private static void promise18FewTools() {
-        MarkCabinet c = ofIslands(4);
+        MarkCabinet c = Draw.ofIslands(4);
         int[] due = {0, 0, 1, 3, 6};
         for (int k = 0; k <= 4; k++) {
             CHECK.due("promise 18: " + k + " tools: how many", due[k], c.strangers(10, 0));
@@ -456,7 +441,7 @@ public final class ToolEdgeTest {
         CHECK.due("promise 18: ten tools: of how many", 258, c.strangers(10, 1));
         CHECK.due("promise 18: ten tools: how many", 258, c.strangers(10, 0));
         CHECK.due("promise 18: ten tools: above all", 0, c.strangers(11, 0));
-        MarkCabinet two = ofIslands(24);
+        MarkCabinet two = Draw.ofIslands(24);
         for (int k = 0; k < 24; k++) {
             two.keep(k % 2 * 9, k, k);
         }
@@ -491,7 +476,7 @@ public final class ToolEdgeTest {
 
     // "TOOLS with PRINTS"
     private static void promise23Tools() {
-        MarkCabinet c = ofIslands(11);
+        MarkCabinet c = Draw.ofIslands(11);
         for (int k = 0; k < 10; k++) {
             CHECK.due("promise 23: tools", k, c.count(1));
             c.keep(9 - k, k, 3);

@@ -24,39 +24,24 @@ public final class ToolTest {
         return Draw.at(x, y);
     }
 
-    /** A cabinet with some prints of one ISLAND each. */
-    private static MarkCabinet cabinetOf(int prints) {
-        MarkCabinet c = new MarkCabinet();
-        c.feed(5, 0x0100);
-        for (int k = 0; k < prints; k++) {
-            c.print(Draw.WHOLE);
-        }
-        return c;
-    }
-
-    private static void belongs(String of, MarkCabinet c, int print, int tool, int year) {
-        CHECK.due(of + ": of(" + print + ", 0)", tool, c.of(print, 0));
-        CHECK.due(of + ": of(" + print + ", 1)", year, c.of(print, 1));
-    }
-
     private static void keepCounts() {
-        MarkCabinet c = cabinetOf(24);
+        MarkCabinet c = Draw.ofIslands(24);
         CHECK.due("the first of tool 0", 1, c.keep(0, 0, 0));
         CHECK.due("the second of tool 0", 2, c.keep(0, 23, 9999));
         CHECK.due("the first of tool 9", 1, c.keep(9, 5, 9999));
         CHECK.due("the third of tool 0", 3, c.keep(0, 7, 5000));
         CHECK.due("prints", 24, c.count(0));
         CHECK.due("tools", 2, c.count(1));
-        belongs("keep", c, 0, 0, 0);
-        belongs("keep", c, 23, 0, 9999);
-        belongs("keep", c, 5, 9, 9999);
-        belongs("never kept", c, 6, -1, -1);
-        MarkCabinet whole = cabinetOf(24);
+        CHECK.belongs("keep", c, 0, 0, 0);
+        CHECK.belongs("keep", c, 23, 0, 9999);
+        CHECK.belongs("keep", c, 5, 9, 9999);
+        CHECK.belongs("never kept", c, 6, -1, -1);
+        MarkCabinet whole = Draw.ofIslands(24);
         for (int k = 0; k < 24; k++) {
             CHECK.due("all to one tool", k + 1, whole.keep(4, k, 100 * k));
         }
         CHECK.due("one tool alone", 1, whole.count(1));
-        MarkCabinet spread = cabinetOf(10);
+        MarkCabinet spread = Draw.ofIslands(10);
         for (int k = 0; k < 10; k++) {
             CHECK.due("one to each tool", 1, spread.keep(k, k, 7));
             CHECK.due("tools", k + 1, spread.count(1));
@@ -64,7 +49,7 @@ public final class ToolTest {
     }
 
     private static void keepRefuses() {
-        MarkCabinet c = cabinetOf(4);
+        MarkCabinet c = Draw.ofIslands(4);
         c.keep(3, 0, 1990);
         int[][] none = {{-1, 1, 5}, {10, 1, 5}, {3, -1, 5}, {3, 4, 5}, {3, 1, -1}, {3, 1, 10000},
             {10, 0, 1990}, {3, 4, 1990}, {3, 0, 10000}};
@@ -79,25 +64,25 @@ public final class ToolTest {
         CHECK.due("the print is of this tool", -3, c.keep(3, 0, 2000));
         CHECK.due("the print is of another tool", -3, c.keep(4, 0, 2000));
         CHECK.due("the tool has one of that YEAR", -3, c.keep(3, 1, 1990));
-        belongs("what is refused changes nothing", c, 0, 3, 1990);
-        belongs("what is refused changes nothing", c, 1, -1, -1);
+        CHECK.belongs("what is refused changes nothing", c, 0, 3, 1990);
+        CHECK.belongs("what is refused changes nothing", c, 1, -1, -1);
         CHECK.due("tools behind refusals", 1, c.count(1));
         CHECK.due("another tool may have that YEAR", 1, c.keep(4, 1, 1990));
         CHECK.due("how many it has", 2, c.keep(3, 2, 1991));
     }
 
     private static void partAndOf() {
-        MarkCabinet c = cabinetOf(3);
+        MarkCabinet c = Draw.ofIslands(3);
         c.keep(2, 0, 10);
         c.keep(2, 1, 20);
         CHECK.due("part(0)", 1, c.part(0));
-        belongs("part", c, 0, -1, -1);
-        belongs("the other one stays", c, 1, 2, 20);
+        CHECK.belongs("part", c, 0, -1, -1);
+        CHECK.belongs("the other one stays", c, 1, 2, 20);
         CHECK.due("part(0) again", -4, c.part(0));
         CHECK.due("of none from the first", -4, c.part(2));
         CHECK.due("its YEAR is free again", 2, c.keep(2, 2, 10));
         CHECK.due("it may come back to another tool", 1, c.keep(7, 0, 10));
-        belongs("back", c, 0, 7, 10);
+        CHECK.belongs("back", c, 0, 7, 10);
         c.part(0);
         CHECK.due("a tool without prints does not count", 1, c.count(1));
         CHECK.due("the print is there still", 1, c.point(0, -1));
@@ -105,7 +90,7 @@ public final class ToolTest {
     }
 
     private static void partAndOfRefuse() {
-        MarkCabinet c = cabinetOf(2);
+        MarkCabinet c = Draw.ofIslands(2);
         c.keep(0, 0, 0);
         for (int far : FAR) {
             CHECK.due("part(" + far + ")", -1, c.part(far));
@@ -115,45 +100,45 @@ public final class ToolTest {
         CHECK.due("part(2)", -1, c.part(2));
         CHECK.due("of(2, 0)", -1000, c.of(2, 0));
         CHECK.due("of(0, 2)", -1000, c.of(0, 2));
-        belongs("behind refusals", c, 0, 0, 0);
+        CHECK.belongs("behind refusals", c, 0, 0, 0);
     }
 
     private static void meltJoins() {
-        MarkCabinet c = cabinetOf(6);
+        MarkCabinet c = Draw.ofIslands(6);
         c.keep(1, 0, 10);
         c.keep(1, 1, 20);
         c.keep(8, 2, 15);
         c.keep(8, 3, 25);
         c.keep(5, 4, 15);
         CHECK.due("melt(8, 1)", 4, c.melt(8, 1));
-        belongs("melt", c, 0, 8, 10);
-        belongs("melt", c, 1, 8, 20);
-        belongs("melt", c, 2, 8, 15);
-        belongs("another tool stays", c, 4, 5, 15);
-        belongs("one of no tool stays", c, 5, -1, -1);
+        CHECK.belongs("melt", c, 0, 8, 10);
+        CHECK.belongs("melt", c, 1, 8, 20);
+        CHECK.belongs("melt", c, 2, 8, 15);
+        CHECK.belongs("another tool stays", c, 4, 5, 15);
+        CHECK.belongs("one of no tool stays", c, 5, -1, -1);
         CHECK.due("tools", 2, c.count(1));
         CHECK.due("a tool without prints into another one", 4, c.melt(8, 1));
         CHECK.due("into a tool without prints", 4, c.melt(1, 8));
-        belongs("melt back", c, 3, 1, 25);
+        CHECK.belongs("melt back", c, 3, 1, 25);
         CHECK.due("two tools without prints", 0, c.melt(0, 9));
     }
 
     private static void meltRefuses() {
-        MarkCabinet c = cabinetOf(4);
+        MarkCabinet c = Draw.ofIslands(4);
         c.keep(1, 0, 10);
         c.keep(1, 1, 20);
         c.keep(2, 2, 15);
         c.keep(2, 3, 20);
         CHECK.due("both have one of one YEAR", -3, c.melt(1, 2));
         CHECK.due("the other way round", -3, c.melt(2, 1));
-        belongs("what is refused changes nothing", c, 2, 2, 15);
-        belongs("what is refused changes nothing", c, 3, 2, 20);
-        MarkCabinet two = cabinetOf(2);
+        CHECK.belongs("what is refused changes nothing", c, 2, 2, 15);
+        CHECK.belongs("what is refused changes nothing", c, 3, 2, 20);
+        MarkCabinet two = Draw.ofIslands(2);
         two.keep(1, 0, 10);
         two.keep(2, 1, 10);
         CHECK.due("with one print each", -3, two.melt(1, 2));
         CHECK.due("with one print each, the other way round", -3, two.melt(2, 1));
-        belongs("with one print each", two, 0, 1, 10);
+        CHECK.belongs("with one print each", two, 0, 1, 10);
         CHECK.due("the same one", -1, c.melt(1, 1));
         CHECK.due("melt(10, 1)", -1, c.melt(10, 1));
         CHECK.due("melt(1, 10)", -1, c.melt(1, 10));
@@ -201,7 +186,7 @@ public final class ToolTest {
     }
 
     private static void likeRefuses() {
-        MarkCabinet c = cabinetOf(2);
+        MarkCabinet c = Draw.ofIslands(2);
         CHECK.due("no tool has prints", -4, c.like(0));
         c.keep(3, 0, 1);
         CHECK.due("the one print is itself", -4, c.like(0));
@@ -228,7 +213,7 @@ public final class ToolTest {
     }
 
     private static void strangersAreOfTwoTools() {
-        MarkCabinet c = cabinetOf(6);
+        MarkCabinet c = Draw.ofIslands(6);
         CHECK.due("of no tools", 0, c.strangers(0, 1));
         c.keep(0, 0, 1);
         c.keep(0, 1, 2);
