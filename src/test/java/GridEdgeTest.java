@@ -351,17 +351,17 @@ public final class GridEdgeTest {
 
     // "Sweeps go on till one takes nothing away."
     private static void promise4ManySweeps() {
-        // a slanting band of which each sweep takes some: the 25th takes nothing away
-        MarkCabinet c = grid("#.#....#.####.#.", "##.####..####.##", "#####.#...#.##..", "..####.#.#.###..",
-            "##.####.###.####", ".##.####.##..#..", "####.####.#..#..", "#..##.####.###..",
-            "###..#.####.#..#", "#....##.####.#..", "....#..#.####.##", ".#.##.#.#.####.#",
-            "#####..###.####.", "#.....##..#.####", ".##.#.#.####.##.", ".#####...#..#..#");
+        // a slanting band of which each sweep takes some: the 26th takes nothing away
+        MarkCabinet c = grid("#############.#.", "#.##.#.#.#....##", ".####.#..##.....", "..####.#.#....##",
+            ".#.####.####..#.", "###.####.#...#..", "####.####.#..##.", "#..##.####.####.",
+            "#..###.####.##.#", "##.##.#.####.#..", "#.#.#.##.####.##", "..##....#.####.#",
+            ".###.##.##.####.", ".##.#..#.##.####", "##.#.#..#.##.##.", "##..#..#.####..#");
         int pieces = c.pieces(0);
         int holes = c.pieces(1);
-        CHECK.due("promise 4: 25 sweeps", 57, c.thin());
-        CHECK.due("promise 4: 25 sweeps: again", 0, c.thin());
-        CHECK.due("promise 4: 25 sweeps: pieces as before", pieces, c.pieces(0));
-        CHECK.due("promise 4: 25 sweeps: holes as before", holes, c.pieces(1));
+        CHECK.due("promise 4: 26 sweeps", 55, c.thin());
+        CHECK.due("promise 4: 26 sweeps: again", 0, c.thin());
+        CHECK.due("promise 4: 26 sweeps: pieces as before", pieces, c.pieces(0));
+        CHECK.due("promise 4: 26 sweeps: holes as before", holes, c.pieces(1));
     }
 
     private static void promise5WithoutDarkAndDarkAlone() {

@@ -6,8 +6,10 @@ import java.lang.reflect.Modifier;
 import java.nio.file.Files;
 import java.nio.file.Path;
 import java.util.Arrays;
+import java.util.HashMap;
 import java.util.HashSet;
 import java.util.List;
+import java.util.Map;
 import java.util.Set;
 import java.util.TreeSet;
 import java.util.regex.Matcher;
@@ -25,8 +27,11 @@ public final class LanguageTest {
         constants();
         face();
         membersOfClasses();
-        words(Files.readString(SOURCE));
+        String code = Files.readString(SOURCE).replaceAll("(?s)/\\*.*?\\*/", "").replaceAll("//[^\\n]*", "");
+        words(code);
+        library(code);
         methodLengths(Files.readAllLines(SOURCE));
+        depthOfCalls(code);
         CHECK.end();
     }
 
@@ -98,8 +103,7 @@ public final class LanguageTest {
         }
     }
 
-    private static void words(String source) {
-        String code = source.replaceAll("(?s)/\\*.*?\\*/", "").replaceAll("//[^\\n]*", "");
+    private static void words(String code) {
         Pattern wrong = Pattern.compile("\\b(throw|throws|try|catch|synchronized|assert|package|protected|native|var"
             + "|float|double|Exception|equals|hashCode|toString|Thread|Random|System\\.(?!arraycopy)\\w+"
             + "|\\w+Exact)\\b|->|::|static \\{");
@@ -111,6 +115,50 @@ public final class LanguageTest {
         while (imports.find()) {
             CHECK.holds("import " + imports.group(1), imports.group(1).equals("java.util.Arrays"));
         }
+    }
+
+    private static void library(String code) {
+        Set<String> allowed = Set.of("Arrays.copyOf", "Arrays.copyOfRange", "Arrays.fill", "System.arraycopy",
+            "Integer.bitCount", "Math.min", "Math.max");
+        Matcher calls = Pattern.compile("\\b(Arrays|System|Integer|Long|Math|String|List)\\.\\w+").matcher(code);
+        while (calls.find()) {
+            CHECK.holds(calls.group() + " is in the library's list", allowed.contains(calls.group()));
+        }
+    }
+
+    /**
+     * "calls that are no recursion go at most eight deep": by their names alone, so that methods of one name count
+     * as one method that makes the calls of all of them; the library's calls count too.
+     */
+    private static void depthOfCalls(String code) {
+        Map<String, Set<String>> calls = new HashMap<>();
+        String method = "(?ms)^( {4}| {8})[a-z][\\w\\[\\] ]* (\\w+)\\([^)]*\\) \\{\\n(.*?)^\\1\\}$";
+        Matcher m = Pattern.compile(method).matcher(code);
+        while (m.find()) {
+            Set<String> called = calls.computeIfAbsent(m.group(2), name -> new HashSet<>());
+            Matcher call = Pattern.compile("(\\w+)\\(").matcher(m.group(3));
+            while (call.find()) {
+                called.add(call.group(1));
+            }
+        }
+        for (String head : FACE) {
+            String name = head.split(" ")[0];
+            CHECK.holds(name + " is found in the text", calls.containsKey(name));
+            int depth = depthOf(name, calls, new HashSet<>());
+            CHECK.holds(name + " goes eight calls deep at most, not " + depth, depth <= 8);
+        }
+    }
+
+    private static int depthOf(String name, Map<String, Set<String>> calls, Set<String> open) {
+        int deepest = 0;
+        open.add(name);
+        for (String next : calls.getOrDefault(name, Set.of())) {
+            if (!open.contains(next)) {
+                deepest = Math.max(deepest, depthOf(next, calls, open));
+            }
+        }
+        open.remove(name);
+        return deepest + 1;
     }
 
     /** By the indents: a method's head stands at 4 or 8 and ends with '{', its end is a '}' of the same indent. */
